@@ -1388,11 +1388,11 @@ public final class TrolleyPlanner {
             int meals = Math.min(facts.mostMeals(trolley, state.quantity[now]), stock[from]);
             start[now] = time[trolley];
             taken[now] = meals;
-            handed[now] = 0;
             stock[from] -= meals;
             loadEnd[now] = start[now] + meals * facts.loadUnits[trolley];
             if (meals == 0) {
-                setNoUnloading(now, start[now], start[now]);
+                setNoUnloading(now, start[now]);
+                finish[now] = start[now];
                 awaitStart(state, trolley, now + 1, start[now]);
                 return;
             }
@@ -1400,20 +1400,18 @@ public final class TrolleyPlanner {
             event[trolley] = REACHES_DOOR;
         }
 
-        private void setNoUnloading(int itsJob, int reached, int finished) {
+        private void setNoUnloading(int itsJob, int reached) {
             reach[itsJob] = reached;
             begin[itsJob] = reached;
             end[itsJob] = reached;
-            finish[itsJob] = finished;
+            handed[itsJob] = 0;
         }
 
         private void reachDoor(Facts facts, State state, int trolley) {
             int now = job[trolley];
-            int door = state.door[now];
-            int walkBack = facts.walk(trolley, door, facts.speed[trolley]);
-            setNoUnloading(now, time[trolley], time[trolley] + walkBack);
+            setNoUnloading(now, time[trolley]);
             unload(facts, state, trolley);
-            finish[now] = end[now] + walkBack;
+            finish[now] = end[now] + facts.walk(trolley, state.door[now], facts.speed[trolley]);
             time[trolley] = finish[now];
             event[trolley] = BRINGS_BACK;
             // Meals that return at once do so before the other trolleys' events of this time.

@@ -17,6 +17,7 @@ public final class BestSetTest {
         waitingAndWalking();
         eightJobs();
         speeds();
+        eachQuestionLooksAnew();
         CHECKS.end();
     }
 
@@ -77,6 +78,9 @@ public final class BestSetTest {
         best(Texts.plan(NEAR + ";job 0 0 0 a 2;job 0 1 0 a 3;job 0 0 0 a 5"), 0, 7, 10, 0, 1, 2);
         best(Texts.plan(NEAR + ";job 0 0 0 a 3;job 0 1 0 a 3;job 0 0 0 a 4"), 0, 7, 10, 1, 0, 2);
         best(Texts.plan(NEAR + ";job 0 0 0 a 3;job 0 0 0 a 2;job 0 1 0 a 3"), 0, 7, 8, 1, 2, 0);
+        // Job 1 could come before job 2 from 0 on, but no more behind job 0.
+        best(Texts.plan(NEAR + ";job 0 0 0 a 2;job 0 0 0 a 2;job 0 1 0 a 2"), 0, 7, 6, 0, 2, 1);
+        best(Texts.plan(NEAR + ";job 0 0 0 a 2;job 0 0 0 a 1;job 0 1 0 a 2"), 0, 7, 5, 0, 1, 2);
     }
 
     private static void capacityAndStock() {
@@ -120,6 +124,8 @@ public final class BestSetTest {
         CHECKS.answered("leastSpeed(0) until 4", p, p.leastSpeed(0), 5);
         p.setDeparture(0, 3);
         CHECKS.refused("leastSpeed(0) until 3", p, p.leastSpeed(0), 6);
+        TrolleyPlanner far = Texts.plan(text.replace("car 0 10", "car 0 81").replace("to 6;", "to 11;"));
+        CHECKS.answered("leastSpeed(0), the greatest one", far, far.leastSpeed(0), 9);
         p.setDeparture(0, 12);
         CHECKS.answered("leastSpeed(0) until 12", p, p.leastSpeed(0), 1);
         p.addJob(0, 1, 0, 0, 2);
@@ -128,6 +134,18 @@ public final class BestSetTest {
         p.setDeparture(0, 4);
         p.setDeparture(1, 26);
         CHECKS.answered("leastSpeed(0) with little time", p, p.leastSpeed(0), 6);
+    }
+
+    private static void eachQuestionLooksAnew() {
+        TrolleyPlanner p = Texts.plan(NEAR + ";job 1 0 0 a 2;job 0 0 0 a 3;job 0 1 0 a 5");
+        CHECKS.answered("bestMeals(0)", p, p.bestMeals(0), 8);
+        CHECKS.answered("bestMeals(1)", p, p.bestMeals(1), 2);
+        CHECKS.answered("bestOrder(0, 0)", p, p.bestOrder(0, 0), 2);
+        CHECKS.answered("bestOrder(1, 0)", p, p.bestOrder(1, 0), 0);
+        p.setDeparture(1, 9);
+        CHECKS.answered("bestOrder(0, 0)", p, p.bestOrder(0, 0), 1);
+        p.setQuantity(1, 4);
+        CHECKS.answered("bestMeals(0)", p, p.bestMeals(0), 4);
     }
 
     private BestSetTest() {

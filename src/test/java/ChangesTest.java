@@ -108,6 +108,8 @@ public final class ChangesTest {
         CHECKS.answered("undo()", p, p.undo(), 1);
         CHECKS.answered("undo()", p, p.undo(), 0);
         jobs(p, 1, 102, 3);
+        CHECKS.answered("delivered(1, 1, 1)", p, p.delivered(1, 1, 1), 2);
+        CHECKS.answered("delivered(0, 0, 0)", p, p.delivered(0, 0, 0), 1);
     }
 
     private static void moving() {
@@ -286,6 +288,8 @@ public final class ChangesTest {
         p.removeJob(1);
         CHECKS.answered("restore()", p, p.restore(), 3);
         jobs(p, 5, 102, 3);
+        CHECKS.answered("delivered(1, 1, 1)", p, p.delivered(1, 1, 1), 2);
+        CHECKS.answered("delivered(1, 0, 0)", p, p.delivered(1, 0, 0), 0);
         CHECKS.answered("stock(0, 0)", p, p.stock(0, 0), 50);
         CHECKS.answered("departure(1)", p, p.departure(1), 10);
         CHECKS.answered("loaded(0)", p, p.loaded(0), 5);
@@ -303,6 +307,8 @@ public final class ChangesTest {
 
     private static void servedJobs() {
         TrolleyPlanner p = Texts.plan(NEAR + ";job 0 0 0 a 9;job 0 1 0 a 9;job 1 1 1 b 2;job 1 1 0 b 9;job 1 1 0 b 1");
+        p.stock(9, 9);
+        p.setQuantity(2, 1);
         p.stock(9, 9);
         CHECKS.due("served(0)", p.served(0), 0);
         CHECKS.due("served(1)", p.served(1), 2);

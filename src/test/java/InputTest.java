@@ -12,7 +12,9 @@ public final class InputTest {
         appendKeepsTheOrderOfBytes();
         loadRefusesCounts();
         loadTakesTheFirstBytes();
+        loadCutsWordsAndNumbers();
         aFailedLoadKeepsThePlan();
+        everyLoadBeginsAnew();
         aLoadForgetsChangesAndSaved();
         theLatestLoadTellsItsError();
         goodTexts();
@@ -87,7 +89,54 @@ public final class InputTest {
         CHECKS.due("the jobs of the old plan", p.jobCount(), 0);
     }
 
+    private static void loadCutsWordsAndNumbers() {
+        TrolleyPlanner p = new TrolleyPlanner();
+        Texts.append(p, WHOLE + ";job 0 0 0 a 15");
+        CHECKS.answered("load with a cut number", p, p.load(WHOLE.length() + 14), 1);
+        CHECKS.answered("jobQuantity(0)", p, p.jobQuantity(0), 1);
+        Texts.append(p, "meal ab 1 1");
+        CHECKS.refused("load with a cut word", p, p.load(6), 4);
+        CHECKS.due("parseError()", p.parseError(), 1);
+        CHECKS.due("errorPosition()", p.errorPosition(), 6);
+        Texts.append(p, "trains");
+        CHECKS.refused("load with a cut keyword", p, p.load(5), 4);
+        CHECKS.due("errorPosition()", p.errorPosition(), 5);
+    }
+
+    private static void everyLoadBeginsAnew() {
+        TrolleyPlanner p = new TrolleyPlanner();
+        String stocked = WHOLE + ";stock 0 a 5;meal b 1 1;meal c 1 1;meal d 1 1;kitchen 1;kitchen 2;stock 2 d 7"
+            + ";trolley 2 1 1 1 1".repeat(4) + ";car 0 1 1 1;car 0 1 1 1;car 0 1 1 1;car 0 1 1 1"
+            + ";job 1 0 4 d 1".repeat(8) + ";job 0 1 0 a 1".repeat(8) + ";job 2 1 0 a 1".repeat(4);
+        for (int i = 0; i < 5; i++) {
+            CHECKS.answered("load of the great plan", p, Texts.load(p, stocked), 20);
+            CHECKS.answered("stock(2, 3)", p, p.stock(2, 3), 7);
+            CHECKS.answered("load of the small plan", p, Texts.load(p, i < 3 ? WHOLE + ";stock 0 a 6" : WHOLE), 0);
+            CHECKS.answered("carCount(0)", p, p.carCount(0), 1);
+            CHECKS.answered("mealCount()", p, p.mealCount(), 1);
+            CHECKS.answered("trolleyCount()", p, p.trolleyCount(), 1);
+            CHECKS.answered("stock(0, 0)", p, p.stock(0, 0), i < 3 ? 6 : 0);
+            CHECKS.refused("stock(1, 0)", p, p.stock(1, 0), 1);
+            CHECKS.answered("deliveredTotal()", p, p.deliveredTotal(), 0);
+            if (i == 2) {
+                CHECKS.refused("load of a wrong text", p, Texts.load(p, stocked + ";"), 4);
+            }
+        }
+    }
+
     private static void aFailedLoadKeepsThePlan() {
+        TrolleyPlanner kept = Texts.plan(Texts.SMALL + ";job 0 0 0 soup 5;job 0 1 0 soup 6");
+        CHECKS.refused("load of a wrong text", kept, Texts.load(kept, "kitchen 3;meal tea 1 1;stock 0 tea 7;trolley 0 1 1 1 1;"
+            + "trolley 0 2 2 2 2;train 1 from 50 to 52;train 0 from 3 to 4;car 0 1 1 1;car 0 1 1 1;job 0 0 0 tea 9;"), 4);
+        CHECKS.answered("jobCount()", kept, kept.jobCount(), 2);
+        CHECKS.answered("jobQuantity(0)", kept, kept.jobQuantity(0), 5);
+        CHECKS.answered("carCount(0)", kept, kept.carCount(0), 1);
+        CHECKS.answered("trolleyCount()", kept, kept.trolleyCount(), 1);
+        CHECKS.answered("departure(1)", kept, kept.departure(1), 80);
+        CHECKS.answered("stock(0, 0)", kept, kept.stock(0, 0), 40);
+        CHECKS.answered("demand(1, 0, 0)", kept, kept.demand(1, 0, 0), 15);
+        CHECKS.answered("moveJob(0, 0)", kept, kept.moveJob(0, 0), 0);
+        CHECKS.answered("finishTime(1)", kept, kept.finishTime(1), 62);
         TrolleyPlanner p = Texts.plan(Texts.SMALL + ";job 0 0 0 soup 5");
         p.setQuantity(0, 6);
         p.save();

@@ -10,6 +10,7 @@ public final class SharingTest {
         wrongIndices();
         equalFractions();
         largestRemainders();
+        fractionsOfTheWholeDemand();
         enoughForAll();
         jointly();
         coverages();
@@ -83,6 +84,16 @@ public final class SharingTest {
         p.removeJob(0);
         shares(p, 0, 0, 0, 1, 0);
         CHECKS.answered("carried(0, 0)", p, p.carried(0, 0), 1);
+    }
+
+    private static void fractionsOfTheWholeDemand() {
+        // Demands 1, 7 and 4 with 8 meals: quotas 8/12, 56/12 = 4 8/12 and 32/12 = 2 8/12.
+        TrolleyPlanner p = Texts.plan(TRAINS + "car 0 0 1 0;car 0 0 7 0;car 0 0 4 0;car 1 0 3 0;meal a 10 0;" + REST.replace(
+            "stock 0 b 999;", "") + ";job 0 0 1 a 8");
+        shares(p, 0, 0, 1, 5, 2);
+        CHECKS.answered("carried(0, 0)", p, p.carried(0, 0), 3);
+        shares(p, 1, 0, 0);
+        shares(p, 0, 0, 1, 5, 2);
     }
 
     private static void enoughForAll() {

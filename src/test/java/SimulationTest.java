@@ -19,7 +19,11 @@ public final class SimulationTest {
         theSmallerTrolleyTakesFirst();
         mealsReturnBeforeAllElse();
         mealsReturnWhenTheReachingIsProcessed();
+        mealsReturnNoSooner();
         walkingIsRoundedUp();
+        aWaitForOneMeal();
+        kitchensOfTheirOwn();
+        twentyJobs();
         CHECKS.end();
     }
 
@@ -247,6 +251,65 @@ public final class SimulationTest {
                 + "kitchen 13;stock 0 soup 40;trolley 0 20 " + speed + " 1 1;job 0 0 0 soup 5");
             CHECKS.answered("finishTime(0) with speed " + speed, p, p.finishTime(0), finish[speed - 1]);
         }
+    }
+
+    private static void mealsReturnNoSooner() {
+        // Trolley 1 is back at 30 with 5 meals; trolley 0 starts its second job before that, or then.
+        String text = "train 0 from 10 to 10;train 1 from 0 to 80;car 0 10 20 0;car 1 10 0 30;car 1 9 0 30;meal soup 10 5;"
+            + "kitchen 0;stock 0 soup 10;trolley 0 20 9 1 1;trolley 0 20 1 2 1;";
+        for (int early = 1; early <= 8; early++) {
+            // 5 meals loaded, 2 units of walk, unloaded and 2 units back: 14; the others wait for train 1.
+            TrolleyPlanner p = Texts.plan(text.replace("train 1 from 0", "train 1 from " + (24 - early))
+                + "job 0 1 0 soup 5;job 1 0 0 soup 5;job 0 1 0 soup 7");
+            times(p, 1, 0, -1, 30);
+            CHECKS.answered("startTime(2)", p, p.startTime(2), 31 - early);
+            CHECKS.answered("loaded(2) from " + (31 - early), p, p.loaded(2), early == 1 ? 5 : 0);
+        }
+        // The same with the trolleys' numbers exchanged, and partly unloaded meals.
+        TrolleyPlanner partly = Texts.plan("train 0 from 10 to 22;train 1 from 0 to 80;car 0 10 20 0;car 1 10 0 30;meal soup 10 5;"
+            + "kitchen 0;stock 0 soup 10;trolley 0 20 1 2 1;trolley 0 20 1 1 1;"
+            + "job 1 1 0 soup 5;job 0 0 0 soup 5;job 1 1 0 soup 7");
+        meals(partly, 1, 5, 2);
+        times(partly, 1, 0, 20, 32);
+        times(partly, 2, 30, -1, 30);
+        CHECKS.answered("finalStock(0, 0)", partly, partly.finalStock(0, 0), 3);
+    }
+
+    private static void aWaitForOneMeal() {
+        TrolleyPlanner p = Texts.plan(Texts.SMALL.replace("train 1 from 20", "train 1 from 30") + ";job 0 1 0 soup 1");
+        CHECKS.answered("longestWait(0)", p, p.longestWait(0), 19);
+        CHECKS.due("served(0)", p.served(0), 0);
+    }
+
+    private static void kitchensOfTheirOwn() {
+        TrolleyPlanner p = Texts.plan(TRAINS + "car 0 10 20 0;car 1 10 0 30;meal soup 10 5;meal tea 1 1;kitchen 0;kitchen 8;"
+            + "stock 0 soup 4;stock 1 soup 3;stock 1 tea 2;trolley 1 20 1 1 1;trolley 0 20 1 1 1;"
+            + "job 0 0 0 soup 9;job 1 0 0 soup 9;job 0 1 0 tea 9;job 1 1 0 tea 9");
+        meals(p, 0, 3, 3);
+        meals(p, 1, 4, 4);
+        meals(p, 2, 2, 2);
+        meals(p, 3, 0, 0);
+        times(p, 0, 0, 10, 15);
+        times(p, 1, 0, 14, 28);
+        times(p, 2, 15, 20, 24);
+        CHECKS.answered("delivered(1, 0, 1)", p, p.delivered(1, 0, 1), 2);
+        CHECKS.answered("delivered(1, 0, 0)", p, p.delivered(1, 0, 0), 0);
+        CHECKS.answered("finalStock(1, 0)", p, p.finalStock(1, 0), 0);
+    }
+
+    private static void twentyJobs() {
+        // Every job leaves something behind, so that each has its start, its door and its return.
+        StringBuilder text = new StringBuilder("train 0 from 0 to 0;train 1 from 0 to 80;car 0 1 20 0;car 1 10 0 30;"
+            + "meal soup 10 5;kitchen 0;stock 0 soup 99;trolley 0 20 1 1 1;trolley 0 20 1 1 1;trolley 0 20 1 1 1");
+        for (int job = 0; job < 20; job++) {
+            text.append(";job ").append(job % 3).append(" 0 0 soup 1");
+        }
+        TrolleyPlanner p = Texts.plan(text.toString());
+        for (int job = 0; job < 20; job++) {
+            times(p, job, job / 3 * 3, -1, job / 3 * 3 + 3);
+            meals(p, job, 1, 0);
+        }
+        CHECKS.answered("finalStock(0, 0)", p, p.finalStock(0, 0), 99);
     }
 
     private SimulationTest() {

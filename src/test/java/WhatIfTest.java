@@ -51,6 +51,14 @@ public final class WhatIfTest {
         CHECKS.answered("neededDelay(1) in time", p, p.neededDelay(1), 0);
         p.setDeparture(1, 21);
         CHECKS.answered("neededDelay(1) short of 1", p, p.neededDelay(1), 1);
+        // Each train has its own delay.
+        p.setDeparture(0, 20);
+        p.addJob(1, 0, 0, 0, 9);
+        p.addJob(1, 0, 0, 0, 4);
+        CHECKS.answered("neededDelay(0)", p, p.neededDelay(0), 6);
+        CHECKS.answered("neededDelay(1) short of 1", p, p.neededDelay(1), 1);
+        p.removeJob(3);
+        p.removeJob(2);
         // A job that has nothing to load leaves nothing behind.
         p.setStock(0, 0, 5);
         CHECKS.answered("neededDelay(1) with little stock", p, p.neededDelay(1), 0);
@@ -136,6 +144,10 @@ public final class WhatIfTest {
         CHECKS.answered("bestSwap()", equal, equal.bestSwap(), 2);
         TrolleyPlanner good = Texts.plan(NEAR + ";job 0 1 0 a 5;job 0 0 0 a 5");
         CHECKS.refused("bestSwap() of a good order", good, good.bestSwap(), 6);
+        TrolleyPlanner same = Texts.plan(NEAR + ";job 0 0 0 a 5;job 0 0 0 a 5");
+        CHECKS.refused("bestSwap() with equal sums", same, same.bestSwap(), 6);
+        TrolleyPlanner twin = Texts.plan(NEAR + ";job 0 0 0 a 4;job 0 1 0 a 5;job 0 1 0 a 5");
+        CHECKS.answered("bestSwap() of equal pairs", twin, twin.bestSwap(), 1);
     }
 
     private static void nothingChanges() {
