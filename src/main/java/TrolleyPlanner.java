@@ -1121,7 +1121,8 @@ public final class TrolleyPlanner {
         }
 
         private void readCar() {
-            int train = takeTrain();
+            int train = takeNumber(0, TRAINS - 1);
+            refuseUnknownTrain(train);
             if (facts.carCount[train] >= MAX_CARS) {
                 refuse(TOO_MANY);
             }
@@ -1209,7 +1210,8 @@ public final class TrolleyPlanner {
             if (state.jobsOf(trolley) >= MAX_OWN_JOBS) {
                 refuse(TOO_MANY);
             }
-            int train = takeTrain();
+            int train = takeNumber(0, TRAINS - 1);
+            refuseUnknownTrain(train);
             int car = takeNumber(0, facts.carCount[train] - 1);
             takeName();
             int meal = namedMeal();
@@ -1232,12 +1234,10 @@ public final class TrolleyPlanner {
             return code == NO_ERROR ? number : low;
         }
 
-        private int takeTrain() {
-            int train = takeNumber(0, TRAINS - 1);
+        private void refuseUnknownTrain(int train) {
             if (!facts.hasTrain[train]) {
                 refuse(RANGE);
             }
-            return train;
         }
 
         private void takeKeyword(long keyword) {
@@ -1372,7 +1372,7 @@ public final class TrolleyPlanner {
             int next = -1;
             int least = 0;
             for (int trolley = 0; trolley < trolleyCount; trolley++) {
-                // Doubled times leave room for the meals that return before all else of that time.
+                // Doubled times leave room for meals that are brought back before all else of that time.
                 int key = 2 * time[trolley] + (event[trolley] == BRINGS_BACK ? 0 : 1);
                 if (event[trolley] != DONE && (next < 0 || key < least)) {
                     next = trolley;
@@ -1413,11 +1413,8 @@ public final class TrolleyPlanner {
             unload(facts, state, trolley);
             finish[now] = end[now] + facts.walk(trolley, state.door[now], facts.speed[trolley]);
             time[trolley] = finish[now];
+            // Where the way back takes no time this event is the very next one: no other has a smaller key.
             event[trolley] = BRINGS_BACK;
-            // Meals that return at once do so before the other trolleys' events of this time.
-            if (handed[now] == taken[now] || finish[now] == reach[now]) {
-                bringBack(facts, state, trolley);
-            }
         }
 
         private void unload(Facts facts, State state, int trolley) {

@@ -81,6 +81,9 @@ public final class BestSetTest {
         // Job 1 could come before job 2 from 0 on, but no more behind job 0.
         best(Texts.plan(NEAR + ";job 0 0 0 a 2;job 0 0 0 a 2;job 0 1 0 a 2"), 0, 7, 6, 0, 2, 1);
         best(Texts.plan(NEAR + ";job 0 0 0 a 2;job 0 0 0 a 1;job 0 1 0 a 2"), 0, 7, 5, 0, 1, 2);
+        // The same with a walk of 1: job 0 is finished at 4, and job 1 would have to start by 3.
+        String walk = NEAR.replace("car 0 0", "car 0 1").replace("car 1 0", "car 1 1").replace("to 10", "to 12");
+        best(Texts.plan(walk + ";job 0 0 0 a 1;job 0 0 0 a 1;job 0 1 0 a 2"), 0, 7, 4, 0, 2, 1);
     }
 
     private static void capacityAndStock() {

@@ -1,3 +1,5 @@
+import com.sun.management.ThreadMXBean;
+import java.lang.management.ManagementFactory;
 import java.lang.reflect.Array;
 import java.lang.reflect.Field;
 import java.lang.reflect.Modifier;
@@ -50,23 +52,20 @@ public final class RoomTest {
         }
     }
 
-    private static long allocated() {
-        var threads = (com.sun.management.ThreadMXBean) java.lang.management.ManagementFactory.getThreadMXBean();
-        return threads.getThreadAllocatedBytes(Thread.currentThread().getId());
-    }
-
     private static void callsMakeNothing(TrolleyPlanner planner) {
         StringBuilder text = new StringBuilder(Texts.SMALL + ";trolley 0 9 2 1 1;trolley 0 9 1 2 1");
         for (int job = 0; job < 20; job++) {
             text.append(";job ").append(job % 3).append(' ').append(job % 2).append(" 0 soup ").append(1 + job % 5);
         }
         int[] words = Texts.words(text.toString());
-        // The measuring takes some bytes at first, so the least of several rounds tells.
+        ThreadMXBean threads = (ThreadMXBean) ManagementFactory.getThreadMXBean();
+        long self = Thread.currentThread().getId();
+        // Loading of classes may take bytes in the first round, so the least of several rounds tells.
         long least = Long.MAX_VALUE;
-        for (int round = 0; round < 20; round++) {
-            long before = allocated();
+        for (int round = 0; round < 5; round++) {
+            long before = threads.getThreadAllocatedBytes(self);
             callAll(planner, words, text.length());
-            least = Math.min(least, allocated() - before);
+            least = Math.min(least, threads.getThreadAllocatedBytes(self) - before);
         }
         CHECKS.due("bytes that the calls take", least, 0);
     }

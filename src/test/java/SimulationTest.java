@@ -210,6 +210,12 @@ public final class SimulationTest {
         CHECKS.answered("stateAt(0, 30)", p, p.stateAt(0, 30), 0);
         CHECKS.answered("leftBehind(0)", p, p.leftBehind(0), 0);
         CHECKS.answered("finalStock(0, 1)", p, p.finalStock(0, 1), 4);
+        // Nothing is left of what the jobs did before the stock was taken away.
+        p.setStock(0, 1, 0);
+        meals(p, 1, 0, 0);
+        times(p, 1, 0, -1, 0);
+        CHECKS.answered("doorBusy(0, 0)", p, p.doorBusy(0, 0), 0);
+        CHECKS.answered("delivered(0, 0, 1)", p, p.delivered(0, 0, 1), 0);
     }
 
     private static void theSmallerTrolleyTakesFirst() {
@@ -266,13 +272,13 @@ public final class SimulationTest {
             CHECKS.answered("loaded(2) from " + (31 - early), p, p.loaded(2), early == 1 ? 5 : 0);
         }
         // The same with the trolleys' numbers exchanged, and partly unloaded meals.
-        TrolleyPlanner partly = Texts.plan("train 0 from 10 to 22;train 1 from 0 to 80;car 0 10 20 0;car 1 10 0 30;meal soup 10 5;"
+        TrolleyPlanner partly = Texts.plan("train 0 from 10 to 21;train 1 from 0 to 80;car 0 10 20 0;car 1 10 0 30;meal soup 10 5;"
             + "kitchen 0;stock 0 soup 10;trolley 0 20 1 2 1;trolley 0 20 1 1 1;"
             + "job 1 1 0 soup 5;job 0 0 0 soup 5;job 1 1 0 soup 7");
-        meals(partly, 1, 5, 2);
-        times(partly, 1, 0, 20, 32);
+        meals(partly, 1, 5, 1);
+        times(partly, 1, 0, 20, 31);
         times(partly, 2, 30, -1, 30);
-        CHECKS.answered("finalStock(0, 0)", partly, partly.finalStock(0, 0), 3);
+        CHECKS.answered("finalStock(0, 0)", partly, partly.finalStock(0, 0), 4);
     }
 
     private static void aWaitForOneMeal() {
