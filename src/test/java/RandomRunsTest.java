@@ -11,6 +11,7 @@ import java.util.Random;
 public final class RandomRunsTest {
     private static final int PLANS = 300;
     private static final int CALLS = 250;
+    private static final int FULL_PLANS = 12;
     private static final int BROKEN_TEXTS = 60000;
 
     private final Random random = new Random(20261119);
@@ -21,7 +22,10 @@ public final class RandomRunsTest {
         RandomRunsTest test = new RandomRunsTest();
         test.findMethods();
         for (int plan = 0; plan < PLANS; plan++) {
-            test.callAll(plan);
+            test.callAll(plan, test.randomText());
+        }
+        for (int plan = 0; plan < FULL_PLANS; plan++) {
+            test.callAll(PLANS + plan, test.fullText());
         }
         test.breakTexts();
         System.out.println("RandomRunsTest: " + test.wrong + " wrong");
@@ -40,10 +44,10 @@ public final class RandomRunsTest {
         methods.sort(Comparator.comparing(Method::getName));
     }
 
-    private void callAll(int plan) throws Exception {
+    private void callAll(int plan, String text) throws Exception {
         TrolleyPlanner planner = new TrolleyPlanner();
         Reference reference = new Reference();
-        loadBoth(planner, reference, randomText());
+        loadBoth(planner, reference, text);
         List<String> trace = new ArrayList<>();
         for (int call = 0; call < CALLS; call++) {
             Method method = methods.get(random.nextInt(methods.size()));
@@ -97,7 +101,7 @@ public final class RandomRunsTest {
         boolean job = method.endsWith("Job") && !method.equals("addJob") || method.startsWith("job")
             || method.endsWith("Time") || method.endsWith("loaded") || method.equals("setQuantity")
             || method.equals("bestTrolley") || method.equals("served");
-        return time ? random.nextInt(250) : quantity ? random.nextInt(30) : job ? random.nextInt(13) : smallIndex();
+        return time ? random.nextInt(250) : quantity ? random.nextInt(30) : job ? random.nextInt(random.nextInt(3) == 0 ? 21 : 13) : smallIndex();
     }
 
     private int smallIndex() {
@@ -172,6 +176,38 @@ public final class RandomRunsTest {
         }
         text.setLength(text.length() - 1);
         return text.length() > 900 ? randomText() : text.toString();
+    }
+
+    /** As much of everything as a plan can have. */
+    private String fullText() {
+        int spread = upTo(1) * 5;
+        StringBuilder text = new StringBuilder();
+        for (int train = 0; train < 2; train++) {
+            int arrival = upTo(9);
+            text.append("train ").append(train).append(" from ").append(arrival).append(" to ")
+                .append(arrival + 20 + upTo(60)).append(';');
+            for (int car = 0; car < 5; car++) {
+                line(text, "car", train, upTo(spread), upTo(9), upTo(9));
+            }
+        }
+        for (String meal : new String[] {"a", "b", "c", "d"}) {
+            line(text, "meal " + meal, upTo(9), upTo(9));
+        }
+        for (int kitchen = 0; kitchen < 3; kitchen++) {
+            line(text, "kitchen", upTo(spread));
+            for (String meal : new String[] {"a", "b", "c", "d"}) {
+                line(text, "stock " + kitchen + " " + meal, upTo(20));
+            }
+        }
+        for (int trolley = 0; trolley < 5; trolley++) {
+            line(text, "trolley", upTo(2), 1 + upTo(8), 1 + upTo(8), 1 + upTo(1), 1 + upTo(1));
+        }
+        int[] jobs = {0, 1, 0, 1, 0, 1, 4, 0, 1, 4, 0, 1, 4, 0, 1, 4, 0, 1, 0, 1};
+        for (int trolley : jobs) {
+            line(text, "job " + trolley + " " + upTo(1) + " " + upTo(4) + " " + "abcd".charAt(upTo(3)), 1 + upTo(5));
+        }
+        text.setLength(text.length() - 1);
+        return text.toString();
     }
 
     private static void line(StringBuilder text, String word, int... numbers) {

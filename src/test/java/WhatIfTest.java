@@ -13,6 +13,7 @@ public final class WhatIfTest {
         withoutATrolley();
         worstJobs();
         bestTrolleys();
+        nothingToDeliver();
         fullTrolleys();
         bestSwaps();
         nothingChanges();
@@ -119,6 +120,15 @@ public final class WhatIfTest {
         // The job keeps its index, and so its place among the jobs of the other trolley.
         TrolleyPlanner place = Texts.plan(NEAR + ";job 0 0 0 a 9;job 0 1 0 a 5;job 1 0 0 a 5");
         CHECKS.answered("bestTrolley(1)", place, place.bestTrolley(1), 1);
+    }
+
+    private static void nothingToDeliver() {
+        TrolleyPlanner p = Texts.plan(NEAR.replace("stock 0 a 50", "stock 0 a 0") + ";job 1 0 0 a 4;job 0 1 0 a 5");
+        CHECKS.answered("bestTrolley(0)", p, p.bestTrolley(0), 0);
+        CHECKS.answered("bestTrolley(1)", p, p.bestTrolley(1), 0);
+        CHECKS.answered("deliveredWithout(1)", p, p.deliveredWithout(1), 0);
+        CHECKS.refused("worstJob()", p, p.worstJob(), 6);
+        CHECKS.refused("bestSwap()", p, p.bestSwap(), 6);
     }
 
     private static void fullTrolleys() {
