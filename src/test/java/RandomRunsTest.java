@@ -10,13 +10,17 @@ import java.util.Random;
 /** Puts random calls on random plans, and on broken texts, to the program and to the slow reference. */
 public final class RandomRunsTest {
     private static final int PLANS = 300;
-    private static final int CALLS = 250;
+    /** An object has 512 calls; behind them the document leaves all answers free. */
+    private static final int CALLS = 512;
+    /** A call and the question for its error code; a text of 900 bytes, its load and three questions. */
+    private static final int CALLS_OF_A_ROUND = 2 + 900 / 20 + 4;
     private static final int FULL_PLANS = 12;
     private static final int BROKEN_TEXTS = 60000;
 
     private final Random random = new Random(20261119);
     private final List<Method> methods = new ArrayList<>();
     private int wrong;
+    private int made;
 
     public static void main(String[] args) throws Exception {
         RandomRunsTest test = new RandomRunsTest();
@@ -47,17 +51,18 @@ public final class RandomRunsTest {
     private void callAll(int plan, String text) throws Exception {
         TrolleyPlanner planner = new TrolleyPlanner();
         Reference reference = new Reference();
+        made = 0;
         loadBoth(planner, reference, text);
-        List<String> trace = new ArrayList<>();
-        for (int call = 0; call < CALLS; call++) {
+        while (made + CALLS_OF_A_ROUND <= CALLS) {
             Method method = methods.get(random.nextInt(methods.size()));
             Object[] args = arguments(method);
             String got = outcome(method, planner, args);
             String want = outcome(Reference.class.getMethod(method.getName(), method.getParameterTypes()), reference, args);
-            trace.add(method.getName() + Arrays.toString(args) + " " + got);
-            if (!got.equals(want) || planner.error() != reference.error()) {
-                report("plan " + plan + " call " + call + " " + trace.get(trace.size() - 1) + ", due is " + want + ", errors "
-                    + planner.error() + " and " + reference.error());
+            int error = planner.error();
+            made += 2;
+            if (!got.equals(want) || error != reference.error()) {
+                report("plan " + plan + " call " + made + " " + method.getName() + Arrays.toString(args) + " " + got + ", due is "
+                    + want + ", errors " + error + " and " + reference.error());
                 return;
             }
             if (random.nextInt(100) == 0) {
@@ -111,6 +116,7 @@ public final class RandomRunsTest {
     private void loadBoth(TrolleyPlanner planner, Reference reference, String text) {
         int[] w = Texts.words(text);
         for (int i = 0; i < w.length; i += 5) {
+            made++;
             int got = planner.append(w[i], w[i + 1], w[i + 2], w[i + 3], w[i + 4]);
             int want = reference.append(w[i], w[i + 1], w[i + 2], w[i + 3], w[i + 4]);
             if (got != want) {
@@ -119,6 +125,7 @@ public final class RandomRunsTest {
         }
         int got = planner.load(text.length());
         int want = reference.load(text.length());
+        made += 4;
         if (got != want || planner.parseError() != reference.parseError()
             || planner.errorPosition() != reference.errorPosition() || planner.error() != reference.error()) {
             report("load of " + text + " answered " + got + " error " + planner.parseError() + " at "

@@ -24,7 +24,7 @@ public final class RoomTest {
         // Even a run that makes nothing but planners stays within its room.
         CHECKS.due("objects are few", room.seen.size() * CALLS < OBJECTS_FOR_ALL_CALLS ? 1 : 0, 1);
         CHECKS.due("elements are few", room.elements * CALLS < ELEMENTS_FOR_ALL_CALLS ? 1 : 0, 1);
-        callsMakeNothing(planner);
+        callsMakeNothing();
         CHECKS.end();
     }
 
@@ -52,7 +52,7 @@ public final class RoomTest {
         }
     }
 
-    private static void callsMakeNothing(TrolleyPlanner planner) {
+    private static void callsMakeNothing() {
         StringBuilder text = new StringBuilder(Texts.SMALL + ";trolley 0 9 2 1 1;trolley 0 9 1 2 1");
         for (int job = 0; job < 20; job++) {
             text.append(";job ").append(job % 3).append(' ').append(job % 2).append(" 0 soup ").append(1 + job % 5);
@@ -63,6 +63,7 @@ public final class RoomTest {
         // Loading of classes may take bytes in the first round, so the least of several rounds tells.
         long least = Long.MAX_VALUE;
         for (int round = 0; round < 5; round++) {
+            TrolleyPlanner planner = new TrolleyPlanner();
             long before = threads.getThreadAllocatedBytes(self);
             callAll(planner, words, text.length());
             least = Math.min(least, threads.getThreadAllocatedBytes(self) - before);

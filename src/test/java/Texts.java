@@ -7,6 +7,50 @@ final class Texts {
     private Texts() {
     }
 
+    /**
+     * As much of everything as there may be. Car c of train t has its door at 10 t + c, c first and t second class; meal m has
+     * the rates 5 m and 10; kitchen k stands at k, with 100 k + m meals of kind m; trolley t is in kitchen t % 3 and carries
+     * 9 - t meals; job j has trolley j % 5, train j % 2, car j / 4, meal j % 4 and j + 1 meals.
+     */
+    static String full() {
+        StringBuilder text = new StringBuilder("train 0 from 0 to 90;train 1 from 9 to 99");
+        for (int car = 0; car < 10; car++) {
+            add(text, ";car", car / 5, car / 5 * 10 + car % 5, car % 5, car / 5);
+        }
+        for (int meal = 0; meal < 4; meal++) {
+            add(text, ";meal " + "abcd".charAt(meal), 5 * meal, 10);
+        }
+        for (int kitchen = 0; kitchen < 3; kitchen++) {
+            add(text, ";kitchen", kitchen);
+            for (int meal = 0; meal < 4; meal++) {
+                add(text, ";stock " + kitchen + " " + "abcd".charAt(meal), 100 * kitchen + meal);
+            }
+        }
+        for (int trolley = 0; trolley < 5; trolley++) {
+            add(text, ";trolley", trolley % 3, 9 - trolley, 9, 1, 1);
+        }
+        for (int job = 0; job < 20; job++) {
+            add(text, ";job " + job % 5 + " " + job % 2 + " " + job / 4 + " " + "abcd".charAt(job % 4), job + 1);
+        }
+        return text.toString();
+    }
+
+    /** As many jobs of a trolley as there may be, with 1, 2, .. 8 meals. */
+    static String eightJobs(int trolley, int train) {
+        StringBuilder text = new StringBuilder();
+        for (int meals = 1; meals <= 8; meals++) {
+            add(text, ";job " + trolley + " " + train + " 0 a", meals);
+        }
+        return text.toString();
+    }
+
+    private static void add(StringBuilder text, String words, int... numbers) {
+        text.append(words);
+        for (int number : numbers) {
+            text.append(' ').append(number);
+        }
+    }
+
     static int[] words(String text) {
         int[] words = new int[(text.length() + 19) / 20 * 5];
         for (int i = 0; i < words.length * 4; i++) {
