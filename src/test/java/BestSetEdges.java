@@ -29,7 +29,8 @@ final class BestSetEdges {
         e.test(part, "- `trolley`: index of the trolley", c -> {
             TrolleyPlanner p = Texts.plan(NEAR + ";trolley 0 9 1 1 1".repeat(3) + ";job 0 0 0 a 1;job 4 0 0 a 1");
             c.indices("trolley of five", p, 5, trolley -> call.applyAsInt(p, trolley));
-            TrolleyPlanner one = Texts.plan(NEAR.replace(";trolley 0 9 1 1 1;trolley 0 9 1 1 1", ";trolley 0 9 1 1 1") + ";job 0 0 0 a 1");
+            TrolleyPlanner one = Texts.plan(NEAR.replace(";trolley 0 9 1 1 1;trolley 0 9 1 1 1", ";trolley 0 9 1 1 1")
+                + ";job 0 0 0 a 1");
             c.indices("trolley of one", one, 1, trolley -> call.applyAsInt(one, trolley));
             TrolleyPlanner none = new TrolleyPlanner();
             c.indices("trolley without a plan", none, 0, trolley -> call.applyAsInt(none, trolley));
@@ -65,10 +66,21 @@ final class BestSetEdges {
             best(c, far.replace("0 to 20", "0 to 12") + ";job 0 0 0 a 1;job 0 0 0 a 1", 0, 1, 1, 0);
             best(c, far.replace("0 to 20", "15 to 16") + ";job 0 0 0 a 1", 0, 1, 1, 0);
             best(c, far.replace("0 to 20", "15 to 15") + ";job 0 0 0 a 1", 0, 0, 0);
-            best(c, far.replace("train 0 from 0 to 20", "train 0 from 5 to 7").replace("train 1 from 0 to 10", "train 1 from 7 to 14")
-                + ";job 0 0 0 a 1;job 0 1 0 a 1", 0, 3, 2, 0, 1);
-            best(c, far.replace("train 0 from 0 to 20", "train 0 from 5 to 7").replace("train 1 from 0 to 10", "train 1 from 7 to 13")
-                + ";job 0 0 0 a 1;job 0 1 0 a 1", 0, 1, 1, 0);
+            best(c, far.replace("train 0 from 0 to 20", "train 0 from 5 to 7").replace("train 1 from 0 to 10",
+                "train 1 from 7 to 14") + ";job 0 0 0 a 1;job 0 1 0 a 1", 0, 3, 2, 0, 1);
+            best(c, far.replace("train 0 from 0 to 20", "train 0 from 5 to 7").replace("train 1 from 0 to 10",
+                "train 1 from 7 to 13") + ";job 0 0 0 a 1;job 0 1 0 a 1", 0, 1, 1, 0);
+            // The last car of train 0 and the first one of train 1: each has the times of its own train.
+            String cars = NEAR.replace("car 1 0 1 0", "car 0 0 1 0;".repeat(4) + "car 1 0 1 0;".repeat(4) + "car 1 0 1 0")
+                .replace("train 1 from 0", "train 1 from 3");
+            for (int car = 0; car < 5; car++) {
+                best(c, cars + ";job 0 0 " + car + " a 9", 0, 1, 9, 0);
+                best(c, cars + ";job 0 0 " + car + " a 1;job 0 0 " + car + " a 9", 0, 3, 10, 0, 1);
+                best(c, cars + ";job 0 1 " + car + " a 5", 0, 1, 5, 0);
+                best(c, cars + ";job 0 1 " + car + " a 6", 0, 0, 0);
+                // 1 meal, with a wait until 3, ends at 4, and then 4 meals at 12; 4 meals end at 8, and then 1 at 10.
+                best(c, cars + ";job 0 1 " + car + " a 1;job 0 1 " + car + " a 4", 0, 3, 5, 1, 0);
+            }
             // The latest times there are.
             best(c, far.replace("0 to 20", "900 to 999") + ";job 0 0 0 a 9", 0, 1, 9, 0);
             best(c, far.replace("0 to 20", "900 to 909") + ";job 0 0 0 a 9", 0, 1, 9, 0);
@@ -111,7 +123,7 @@ final class BestSetEdges {
             best(c, NEAR.replace("0 to 20", "0 to 1").replace("0 to 10", "0 to 1") + ";job 0 0 0 a 1;job 0 1 0 a 1", 0, 0, 0);
             best(c, NEAR.replace("0 to 20", "0 to 1").replace("0 to 10", "0 to 1") + Texts.eightJobs(1, 0), 1, 0, 0);
         });
-        e.test("Section 5", "Its order is the lexicographically smallest one (by job numbers) with which the trolley can do it alone.", c -> {
+        e.test("Section 5", "Its order is the lexicographically smallest one (by job numbers) with which the trolley can", c -> {
             // All orders are good; then job 1 has to come before 5, 4, 3 units of the others.
             best(c, NEAR + ";job 0 0 0 a 2;job 0 0 0 a 3;job 0 0 0 a 4", 0, 7, 9, 0, 1, 2);
             best(c, NEAR + ";job 0 0 0 a 2;job 0 1 0 a 3;job 0 0 0 a 4", 0, 7, 9, 0, 1, 2);
@@ -119,10 +131,24 @@ final class BestSetEdges {
             best(c, NEAR + ";job 0 0 0 a 2;job 0 0 0 a 3;job 0 1 0 a 3", 0, 7, 8, 0, 2, 1);
             best(c, NEAR + ";job 0 0 0 a 3;job 0 0 0 a 2;job 0 1 0 a 3", 0, 7, 8, 1, 2, 0);
             best(c, NEAR + ";job 0 0 0 a 3;job 0 0 0 a 3;job 0 1 0 a 3", 0, 7, 9, 2, 0, 1);
+            // Job 1 could be done before job 2 from 0 on, but no more when job 0 is done, at 4, 5 or 3.
+            best(c, NEAR + ";job 0 0 0 a 2;job 0 0 0 a 2;job 0 1 0 a 2", 0, 7, 6, 0, 2, 1);
+            best(c, NEAR + ";job 0 0 0 a 1;job 0 0 0 a 2;job 0 1 0 a 2", 0, 7, 5, 0, 1, 2);
+            best(c, NEAR.replace("train 0 from 0", "train 0 from 4") + ";job 0 0 0 a 1;job 0 0 0 a 1;job 0 1 0 a 2", 0, 7, 4,
+                0, 2, 1);
+            best(c, NEAR.replace("train 0 from 0", "train 0 from 3") + ";job 0 0 0 a 1;job 0 0 0 a 1;job 0 1 0 a 2", 0, 7, 4,
+                0, 1, 2);
+            String walk = NEAR.replace("car 0 0", "car 0 1").replace("car 1 0", "car 1 1");
+            best(c, walk.replace("0 to 10", "0 to 13") + ";job 0 0 0 a 1;job 0 0 0 a 1;job 0 1 0 a 2", 0, 7, 4, 0, 1, 2);
+            best(c, walk.replace("0 to 10", "0 to 12") + ";job 0 0 0 a 1;job 0 0 0 a 1;job 0 1 0 a 2", 0, 7, 4, 0, 2, 1);
+            String slow = NEAR.replace("trolley 0 9 1 1 1", "trolley 0 9 1 2 1");
+            best(c, slow.replace("0 to 10", "0 to 12") + ";job 0 0 0 a 1;job 0 0 0 a 1;job 0 1 0 a 2", 0, 7, 4, 0, 1, 2);
+            best(c, slow.replace("0 to 10", "0 to 11") + ";job 0 0 0 a 1;job 0 0 0 a 1;job 0 1 0 a 2", 0, 7, 4, 0, 2, 1);
             // By job numbers, also where jobs of other trolleys stand between.
             best(c, NEAR + ";job 1 0 0 a 9;job 0 0 0 a 2;job 1 0 0 a 9;job 0 1 0 a 4;job 0 0 0 a 4", 0, 7, 10, 3, 1, 4);
             // Eight jobs, the last of which has to be the first.
-            best(c, NEAR.replace("0 to 10", "0 to 2") + ";job 0 0 0 a 1".repeat(7) + ";job 0 1 0 a 1", 0, 255, 8, 7, 0, 1, 2, 3, 4, 5, 6);
+            best(c, NEAR.replace("0 to 10", "0 to 2") + ";job 0 0 0 a 1".repeat(7) + ";job 0 1 0 a 1", 0, 255, 8, 7, 0, 1, 2,
+                3, 4, 5, 6);
         });
     }
 
@@ -135,6 +161,17 @@ final class BestSetEdges {
             c.answered("bestSet(1)", p, p.bestSet(1), 5);
             p.setDeparture(0, 19);
             c.answered("bestSet(1) with less time", p, p.bestSet(1), 1);
+            // Each question is answered for itself: what one trolley can do, or could before, is not what another one can.
+            TrolleyPlanner other = Texts.plan(NEAR.replace("0 to 20", "0 to 999") + Texts.eightJobs(0, 0)
+                + Texts.eightJobs(1, 1));
+            for (int round = 0; round < 2; round++) {
+                c.answered("bestSet(0), all", other, other.bestSet(0), 255);
+                c.answered("bestSet(1), those of 2 and 3 meals", other, other.bestSet(1), 6);
+            }
+            other.setDeparture(0, 0);
+            c.answered("bestSet(0), none", other, other.bestSet(0), 0);
+            other.setDeparture(1, 2);
+            c.answered("bestSet(1), that of 1 meal", other, other.bestSet(1), 1);
         });
         trolleyIndex(e, "Promise 36", TrolleyPlanner::bestSet);
         e.test("Promise 36", "Returns a bit set (bit k for the k-th job of the trolley); FAILED on an error: 1.", c -> {
@@ -153,7 +190,8 @@ final class BestSetEdges {
         });
         trolleyIndex(e, "Promise 37", TrolleyPlanner::bestMeals);
         e.test("Promise 37", "Returns the number of meals; FAILED on an error: 1.", c -> {
-            TrolleyPlanner p = Texts.plan(NEAR.replace("0 to 20", "0 to 999").replace("trolley 0 9", "trolley 0 99") + ";job 0 0 0 a 99".repeat(8));
+            TrolleyPlanner p = Texts.plan(NEAR.replace("0 to 20", "0 to 999").replace("trolley 0 9", "trolley 0 99")
+                + ";job 0 0 0 a 99".repeat(8));
             // 198 units each: five of the eight until 999.
             c.answered("the most meals until 999", p, p.bestMeals(0), 495);
             c.answered("no meals", p, p.bestMeals(1), 0);
@@ -186,8 +224,8 @@ final class BestSetEdges {
             c.refused("bestOrder(-1, 9), neither", p, p.bestOrder(-1, 9), 1);
             TrolleyPlanner none = new TrolleyPlanner();
             c.refused("bestOrder(0, -1) without a plan", none, none.bestOrder(0, -1), 1);
-            TrolleyPlanner last = Texts.plan(NEAR + ";trolley 0 9 1 1 1" + Texts.eightJobs(0, 0) + Texts.eightJobs(1, 0) + ";job 2 0 0 a 8".repeat(3)
-                + ";job 2 0 0 a 9");
+            TrolleyPlanner last = Texts.plan(NEAR + ";trolley 0 9 1 1 1" + Texts.eightJobs(0, 0) + Texts.eightJobs(1, 0)
+                + ";job 2 0 0 a 8".repeat(3) + ";job 2 0 0 a 9");
             c.answered("the greatest index", last, last.bestOrder(2, 0), 19);
         });
     }
@@ -196,8 +234,8 @@ final class BestSetEdges {
 
     private static void leastSpeed(Edges e) {
         // One meal over a way of 72, there before train 0 leaves: 1 + 72 / SPEED rounded up + 1.
-        String far = "train 0 from 0 to 10;train 1 from 0 to 999;car 0 72 1 0;car 1 99 1 0;meal a 10 0;kitchen 0;trolley 0 9 5 1 1;"
-            + "trolley 0 9 5 1 1";
+        String far = "train 0 from 0 to 10;train 1 from 0 to 999;car 0 72 1 0;car 1 99 1 0;meal a 10 0;kitchen 0;"
+            + "trolley 0 9 5 1 1;trolley 0 9 5 1 1";
         e.test("Promise 39", "Returns the smallest SPEED with which a trolley could do all its jobs alone (section 5).", c -> {
             int[] latest = {74, 38, 26, 20, 17, 14, 13, 11, 10};
             for (int speed = 1; speed <= 9; speed++) {
@@ -211,7 +249,8 @@ final class BestSetEdges {
                 }
             }
             // All its jobs, in the best order; those of others and the stock count for nothing.
-            TrolleyPlanner p = Texts.plan(far.replace("0 to 10", "0 to 74") + ";job 0 1 0 a 1;job 1 0 0 a 9;job 0 0 0 a 1;job 1 0 0 a 9");
+            TrolleyPlanner p = Texts.plan(far.replace("0 to 10", "0 to 74")
+                + ";job 0 1 0 a 1;job 1 0 0 a 9;job 0 0 0 a 1;job 1 0 0 a 9");
             c.answered("leastSpeed(0), the second job first", p, p.leastSpeed(0), 1);
             c.answered("leastSpeed(1), twice", p, p.leastSpeed(1), 6);
             p.setDeparture(1, 100);
@@ -228,6 +267,11 @@ final class BestSetEdges {
             c.refused("no such trolley", p, p.leastSpeed(2), 1);
             TrolleyPlanner none = new TrolleyPlanner();
             c.refused("leastSpeed(0) without a plan", none, none.leastSpeed(0), 1);
+            // 10 would be enough for a way of 90.
+            TrolleyPlanner ten = Texts.plan(far.replace("car 0 72", "car 0 90").replace("0 to 10", "0 to 11") + ";job 0 0 0 a 1");
+            c.refused("more than 9", ten, ten.leastSpeed(0), 6);
+            ten.setDeparture(0, 12);
+            c.answered("9 for the same way", ten, ten.leastSpeed(0), 9);
             // No speed helps where the loading takes too long.
             TrolleyPlanner slow = Texts.plan(NEAR + ";job 0 1 0 a 6");
             c.refused("none, beside the kitchen", slow, slow.leastSpeed(0), 6);

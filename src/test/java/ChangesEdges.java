@@ -147,7 +147,7 @@ final class ChangesEdges {
     }
 
     private static void latestTen(Edges e) {
-        e.test("Section 6", "Only the latest 10 changes since the last successful call of load or restore are kept for this.", c -> {
+        e.test("Section 6", "Only the latest 10 changes since the last successful call of load or restore are kept for", c -> {
             for (int changes : new int[] {0, 1, 9, 10, 11, 12, 20, 21, 35}) {
                 TrolleyPlanner p = Texts.plan(THREE);
                 for (int change = 1; change <= changes; change++) {
@@ -228,7 +228,7 @@ final class ChangesEdges {
             c.numbers("addJob of", p, 1, 99, quantity -> p.addJob(0, 0, 0, 0, quantity));
             jobs(c, p, 1, 99);
         });
-        e.test("Promise 45", "Returns the number of jobs; FAILED on an error: 1; 2 for quantity; 3 if there are 20 jobs or the trolley has 8.", c -> {
+        e.test("Promise 45", "Returns the number of jobs; FAILED on an error: 1; 2 for quantity; 3 if there are 20 jobs", c -> {
             TrolleyPlanner p = Texts.plan(NEAR + ";trolley 0 9 1 1 1");
             for (int job = 1; job <= 8; job++) {
                 c.answered("addJob", p, p.addJob(0, 0, 0, 0, 1), job);
@@ -303,8 +303,9 @@ final class ChangesEdges {
     private static void moveJob(Edges e) {
         String five = NEAR + ";job 0 0 0 a 1;job 0 0 0 a 2;job 1 0 0 a 3;job 0 0 0 a 4;job 1 0 0 a 5";
         e.test("Promise 47", "Moves a job to another index; the jobs in between move by one towards its old index.", c -> {
-            int[][] moves = {{0, 4, 2, 103, 4, 105, 1}, {4, 0, 105, 1, 2, 103, 4}, {1, 3, 1, 103, 4, 2, 105}, {3, 1, 1, 4, 2, 103, 105},
-                {0, 1, 2, 1, 103, 4, 105}, {1, 0, 2, 1, 103, 4, 105}, {3, 4, 1, 2, 103, 105, 4}, {4, 3, 1, 2, 103, 105, 4}};
+            int[][] moves = {{0, 4, 2, 103, 4, 105, 1}, {4, 0, 105, 1, 2, 103, 4}, {1, 3, 1, 103, 4, 2, 105},
+                {3, 1, 1, 4, 2, 103, 105}, {0, 1, 2, 1, 103, 4, 105}, {1, 0, 2, 1, 103, 4, 105}, {3, 4, 1, 2, 103, 105, 4},
+                {4, 3, 1, 2, 103, 105, 4}};
             for (int[] move : moves) {
                 TrolleyPlanner p = Texts.plan(five);
                 c.answered("moveJob(" + move[0] + ", " + move[1] + ")", p, p.moveJob(move[0], move[1]), 0);
@@ -413,6 +414,18 @@ final class ChangesEdges {
         e.test("Promise 49", "This is a change.", c -> {
             oneChange(c, "setStock", p -> p.setStock(0, 0, 0));
             oneChange(c, "setStock to the same number", p -> p.setStock(0, 0, 50));
+            // Each of the stocks there may be is undone, and restored.
+            TrolleyPlanner all = Texts.plan(Texts.full());
+            all.save();
+            for (int stock = 0; stock < 12; stock++) {
+                int due = 100 * (stock / 4) + stock % 4;
+                c.answered("setStock", all, all.setStock(stock / 4, stock % 4, 999), due);
+                c.answered("undo()", all, all.undo(), 0);
+                c.answered("stock after undo()", all, all.stock(stock / 4, stock % 4), due);
+                c.answered("setStock", all, all.setStock(stock / 4, stock % 4, 998), due);
+                c.answered("restore()", all, all.restore(), 20);
+                c.answered("stock after restore()", all, all.stock(stock / 4, stock % 4), due);
+            }
         });
         e.test("Promise 49", "- `kitchen`: index of the kitchen", c -> {
             TrolleyPlanner one = Texts.plan(THREE);
@@ -485,7 +498,7 @@ final class ChangesEdges {
     }
 
     private static void applyBest(Edges e) {
-        e.test("Promise 51", "Removes the jobs of a trolley that are not in its best set and puts the others in the order of section 5", c -> {
+        e.test("Promise 51", "Removes the jobs of a trolley that are not in its best set and puts the others in the", c -> {
             // Train 0 is there from 5 to 20, train 1 from 0 to 10: first the 4 meals, then the 5.
             applied(c, ";job 0 0 0 a 5;job 0 1 0 a 9;job 0 1 0 a 4", 0, 1, 4, 5);
             applied(c, ";job 1 0 0 b 1;job 0 0 0 a 5;job 1 0 0 b 2;job 0 1 0 a 9;job 1 0 0 b 3;job 0 1 0 a 4;job 1 0 0 b 4", 0, 1,
@@ -509,16 +522,20 @@ final class ChangesEdges {
         });
         e.test("Promise 51", "The job at index i(k), for k below n, becomes the k-th job of the order", c -> {
             // Three of four jobs, at the indices 1, 3, 4 and 6: those of 2, 3 and 4 meals, train 1 first.
-            applied(c, ";job 1 0 0 b 1;job 0 1 0 a 9;job 1 0 0 b 2;job 0 0 0 a 2;job 0 1 0 a 4;job 1 0 0 b 3;job 0 0 0 a 3;job 1 0 0 b 4",
+            applied(c,
+                ";job 1 0 0 b 1;job 0 1 0 a 9;job 1 0 0 b 2;job 0 0 0 a 2;job 0 1 0 a 4;job 1 0 0 b 3;job 0 0 0 a 3;"
+                    + "job 1 0 0 b 4",
                 0, 1, 101, 4, 102, 2, 3, 103, 104);
             // Eight jobs, of which the last one has to be the first: all of them.
-            TrolleyPlanner eight = Texts.plan(NEAR.replace("from 0 to 10", "from 0 to 2") + ";job 0 0 0 a 1".repeat(7) + ";job 0 1 0 b 1");
+            TrolleyPlanner eight = Texts.plan(NEAR.replace("from 0 to 10", "from 0 to 2") + ";job 0 0 0 a 1".repeat(7)
+                + ";job 0 1 0 b 1");
             c.answered("delivered(1, 0, 1) before", eight, eight.delivered(1, 0, 1), 0);
             c.answered("applyBest(0)", eight, eight.applyBest(0), 0);
             c.answered("unloaded(0)", eight, eight.unloaded(0), 1);
             c.answered("delivered(1, 0, 1)", eight, eight.delivered(1, 0, 1), 1);
             // Twenty jobs, of which eight are removed: all of trolley 1, which comes too late.
-            TrolleyPlanner full = Texts.plan(NEAR + ";trolley 0 9 1 1 1" + ";job 1 1 0 a 9;job 0 0 0 a 1".repeat(8) + ";job 2 0 0 b 7".repeat(4));
+            TrolleyPlanner full = Texts.plan(NEAR + ";trolley 0 9 1 1 1" + ";job 1 1 0 a 9;job 0 0 0 a 1".repeat(8)
+                + ";job 2 0 0 b 7".repeat(4));
             c.answered("applyBest(1)", full, full.applyBest(1), 8);
             jobs(c, full, 1, 1, 1, 1, 1, 1, 1, 1, 207, 207, 207, 207);
             c.answered("applyBest(2)", full, full.applyBest(2), 3);
@@ -567,7 +584,7 @@ final class ChangesEdges {
             p.undo();
             c.answered("deliveredTotal()", p, p.deliveredTotal(), 4);
         });
-        e.test("Promise 52", "Returns the number of changes that can still be undone; FAILED on an error: 1; 6 if there is none.", c -> {
+        e.test("Promise 52", "Returns the number of changes that can still be undone; FAILED on an error: 1; 6 if there", c -> {
             TrolleyPlanner none = new TrolleyPlanner();
             c.refused("undo() without a plan", none, none.undo(), 1);
             c.refused("undo() without a plan again", none, none.undo(), 1);
@@ -750,7 +767,8 @@ final class ChangesEdges {
             c.due("error() when it fails after a success", planned.error(), 0);
         });
         e.test("Promise 55", "- `i`: from 0", c -> {
-            TrolleyPlanner p = Texts.plan(NEAR.replace("to 20", "to 999").replace("stock 0 a 50", "stock 0 a 999") + ";trolley 0 9 1 1 1"
+            TrolleyPlanner p = Texts.plan(NEAR.replace("to 20", "to 999").replace("stock 0 a 50", "stock 0 a 999")
+                + ";trolley 0 9 1 1 1"
                 + ";job 0 0 0 a 1;job 1 0 0 a 1".repeat(8) + ";job 2 0 0 a 1".repeat(4));
             for (int i = 0; i < 20; i++) {
                 c.due("served(" + i + ") of twenty", p.served(i), i);

@@ -97,7 +97,8 @@ final class Checks {
     }
 
     /** The call fails with that code, and after it all that can be asked is as without it. */
-    void refusedAndUnchanged(String what, Supplier<TrolleyPlanner> make, ToLongFunction<TrolleyPlanner> call, long failed, int code) {
+    void refusedAndUnchanged(String what, Supplier<TrolleyPlanner> make, ToLongFunction<TrolleyPlanner> call, long failed,
+        int code) {
         TrolleyPlanner touched = make.get();
         due(what, call.applyAsLong(touched), failed);
         due(what + ", its error code", touched.error(), code);

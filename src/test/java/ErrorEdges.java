@@ -10,8 +10,8 @@ import java.util.regex.Pattern;
 /** The edges of the beginning, of section 6 up to the changes, of the examples and of the constants: errors of all methods. */
 final class ErrorEdges {
     /** The doors are at the kitchen. Job 0 delivers 4 meals, job 1 none: it would deliver 5 in front of job 0, or without it. */
-    private static final String NEAR = "train 0 from 0 to 20;train 1 from 0 to 10;car 0 0 1 0;car 1 0 1 0;meal a 10 0;kitchen 0;stock 0 a 50;"
-        + "trolley 0 9 1 1 1;trolley 0 9 1 1 1";
+    private static final String NEAR = "train 0 from 0 to 20;train 1 from 0 to 10;car 0 0 1 0;car 1 0 1 0;meal a 10 0;"
+        + "kitchen 0;stock 0 a 50;trolley 0 9 1 1 1;trolley 0 9 1 1 1";
     private static final int[] ODD = {-1, 99, 1 << 30, Integer.MIN_VALUE, Integer.MAX_VALUE};
     private static final long NONE = TrolleyPlanner.FAILED;
     private static final long NONE_LONG = TrolleyPlanner.FAILED_LONG;
@@ -227,7 +227,7 @@ final class ErrorEdges {
     }
 
     private static void nothingElseChanges(Edges e) {
-        e.test("Section 6", "A failed call changes nothing except the error code, and, for a parse error, the input buffer", c -> {
+        e.test("Section 6", "A failed call changes nothing except the error code, and, for a parse error, the input", c -> {
             for (Call one : goodCalls()) {
                 c.refusedAndUnchanged(one.name + " without a plan", ErrorEdges::unplanned, one.call, one.failed, 1);
             }
@@ -371,7 +371,8 @@ final class ErrorEdges {
 
     /** Nothing that is loaded can be unloaded within 60 units after the departure. */
     private static TrolleyPlanner late() {
-        TrolleyPlanner p = Texts.plan(NEAR.replace("0 to 20", "0 to 1").replace("trolley 0 9 1 1 1", "trolley 0 90 1 1 1") + ";job 0 0 0 a 40");
+        TrolleyPlanner p = Texts.plan(NEAR.replace("0 to 20", "0 to 1").replace("trolley 0 9 1 1 1", "trolley 0 90 1 1 1")
+            + ";job 0 0 0 a 40");
         p.setStock(0, 0, 40);
         return p;
     }
@@ -387,7 +388,7 @@ final class ErrorEdges {
     }
 
     private static void failedAnswers(Edges e) {
-        e.test("Section 6", "Methods that return int return FAILED on an error, methods that return long return FAILED_LONG.", c -> {
+        e.test("Section 6", "Methods that return int return FAILED on an error, methods that return long return", c -> {
             TrolleyPlanner p = planned();
             c.refused("an int, 1", p, p.departure(-1), 1);
             c.refused("an int, 2", p, p.stateAt(0, -1), 2);
@@ -434,7 +435,8 @@ final class ErrorEdges {
             if (method.getName().equals(name) && method.getParameterCount() == words.length) {
                 Object[] args = new Object[words.length];
                 for (int i = 0; i < words.length; i++) {
-                    args[i] = words[i].matches("true|false") ? (Object) Boolean.valueOf(words[i]) : (Object) Integer.valueOf(words[i]);
+                    boolean choice = words[i].matches("true|false");
+                    args[i] = choice ? (Object) Boolean.valueOf(words[i]) : (Object) Integer.valueOf(words[i]);
                 }
                 try {
                     return ((Number) method.invoke(p, args)).longValue();

@@ -133,7 +133,8 @@ final class InputEdges {
             for (String digits : new String[] {"0", "9", "00", "09", "000", "009"}) {
                 c.goodText(WHOLE + ";kitchen " + digits, 0);
             }
-            String[] longOnes = {"0000", "0001", "1000", "9999", "4294967296", "4294967297", "18446744073709551617", "0".repeat(300)};
+            String[] longOnes = {"0000", "0001", "1000", "9999", "4294967296", "4294967297", "18446744073709551617",
+                "0".repeat(300)};
             for (String digits : longOnes) {
                 bad(c, WHOLE, "kitchen " + digits, 1, 1);
             }
@@ -150,7 +151,8 @@ final class InputEdges {
         e.test("Section 1", "Blanks (byte 32) only separate tokens.", c -> {
             c.goodText(WHOLE, 0);
             c.goodText("   " + WHOLE.replace(" ", "   ").replace(";", "   ;   ") + "   ", 0);
-            c.goodText(WHOLE.replace("train ", "train").replace(" from ", "from").replace(" to ", "to").replace("kitchen 5", "kitchen5"), 0);
+            c.goodText(WHOLE.replace("train ", "train").replace(" from ", "from").replace(" to ", "to").replace("kitchen 5",
+                "kitchen5"), 0);
             bad(c, WHOLE, "kit chen 5", 1, 0);
             bad(c, WHOLE, "kitchen 1 2", 1, 2);
             for (int value = 0; value < 256; value++) {
@@ -375,7 +377,8 @@ final class InputEdges {
             TrolleyPlanner p = Texts.plan(THREE_KITCHENS + ";meal b 1 1;stock 1 b 999");
             for (int kitchen = 0; kitchen < 3; kitchen++) {
                 for (int meal = 0; meal < 2; meal++) {
-                    c.answered("stock(" + kitchen + ", " + meal + ")", p, p.stock(kitchen, meal), kitchen == 1 && meal == 1 ? 999 : 0);
+                    c.answered("stock(" + kitchen + ", " + meal + ")", p, p.stock(kitchen, meal),
+                        kitchen == 1 && meal == 1 ? 999 : 0);
                 }
             }
             for (int load = 0; load < 3; load++) {
@@ -510,11 +513,12 @@ final class InputEdges {
             String full = FIVE_TROLLEYS + Texts.eightJobs(4, 0) + Texts.eightJobs(0, 1) + ";job 3 0 0 a 1".repeat(4);
             bad(c, full, "job 4 0 0 a 1", 4, 0);
         });
-        e.test("Section 1", "5: at the end of the text: a train without a train line or without a car line; no meal; no trolley.", c -> {
+        e.test("Section 1", "5: at the end of the text: a train without a train line or without a car line; no meal; no", c -> {
             c.badText("kitchen 5", 5, 9);
             c.goodText(WHOLE, 0);
             String[][] missing = {{";car 0 1 2 3"}, {";car 1 1 2 3"}, {"train 0 from 0 to 9;", ";car 0 1 2 3"},
-                {";train 1 from 0 to 9", ";car 1 1 2 3"}, {";meal a 1 1"}, {";trolley 0 1 1 1 1"}, {";kitchen 5", ";trolley 0 1 1 1 1"}};
+                {";train 1 from 0 to 9", ";car 1 1 2 3"}, {";meal a 1 1"}, {";trolley 0 1 1 1 1"},
+                    {";kitchen 5", ";trolley 0 1 1 1 1"}};
             for (String[] lines : missing) {
                 String text = WHOLE;
                 for (String line : lines) {
@@ -639,7 +643,7 @@ final class InputEdges {
     }
 
     private static void load(Edges e) {
-        e.test("Promise 3", "Parses the first count bytes of the input buffer and empties the buffer, even if the parse fails.", c -> {
+        e.test("Promise 3", "Parses the first count bytes of the input buffer and empties the buffer, even if the parse", c -> {
             TrolleyPlanner p = new TrolleyPlanner();
             Texts.append(p, WHOLE + "?".repeat(500));
             c.answered("load of the first bytes", p, p.load(WHOLE.length()), 0);

@@ -1,3 +1,6 @@
+import java.lang.reflect.Field;
+import java.lang.reflect.Method;
+import java.lang.reflect.Modifier;
 import java.nio.file.Files;
 import java.nio.file.Path;
 import java.util.regex.Matcher;
@@ -7,6 +10,8 @@ import java.util.regex.Pattern;
 public final class LanguageTest {
     private static final Checks CHECKS = new Checks("LanguageTest");
     private static final int LONGEST_METHOD = 60;
+    private static final int MOST_FIELDS = 20;
+    private static final int MOST_PARAMETERS = 7;
 
     public static void main(String[] args) throws Exception {
         String source = Files.readString(Path.of("src/main/java/TrolleyPlanner.java"));
@@ -34,7 +39,32 @@ public final class LanguageTest {
         CHECKS.due("throw statements", code.split("\\bthrow\\b", -1).length - 1, 1);
         CHECKS.due("classes", Pattern.compile("\\bclass \\w").matcher(code).results().count() <= 12 ? 1 : 0, 1);
         methodsAreShort(code);
+        classIsPlain(TrolleyPlanner.class);
+        for (Class<?> inside : TrolleyPlanner.class.getDeclaredClasses()) {
+            CHECKS.due(inside.getSimpleName() + " is private and static", inside.getModifiers() & (Modifier.PRIVATE | Modifier.STATIC),
+                Modifier.PRIVATE | Modifier.STATIC);
+            classIsPlain(inside);
+        }
         CHECKS.end();
+    }
+
+    /** Few fields, none of them static but constants of the types that the rules let be; few parameters. */
+    private static void classIsPlain(Class<?> one) {
+        int fields = 0;
+        for (Field field : one.getDeclaredFields()) {
+            String name = one.getSimpleName() + "." + field.getName();
+            if (Modifier.isStatic(field.getModifiers())) {
+                boolean constant = field.getType() == int.class || field.getType() == long.class;
+                CHECKS.due(name + " is a constant", constant && Modifier.isFinal(field.getModifiers()) ? 1 : 0, 1);
+            } else {
+                fields++;
+                CHECKS.due(name + " is an array of one dimension at most", field.getType().getName().startsWith("[[") ? 1 : 0, 0);
+            }
+        }
+        CHECKS.due(one.getSimpleName() + " has few fields", fields <= MOST_FIELDS ? 1 : 0, 1);
+        for (Method method : one.getDeclaredMethods()) {
+            CHECKS.due(method.getName() + " has few parameters", method.getParameterCount() <= MOST_PARAMETERS ? 1 : 0, 1);
+        }
     }
 
     private static void methodsAreShort(String code) {

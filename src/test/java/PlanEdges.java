@@ -16,7 +16,8 @@ final class PlanEdges {
     // ---- section 2
 
     private static int demandOf(int first, int firstRate, int second, int secondRate) {
-        return Texts.plan(TWO_TRAINS + ";car 0 5 0 0;car 1 5 " + first + " " + second + ";meal a " + firstRate + " " + secondRate + REST)
+        return Texts.plan(TWO_TRAINS + ";car 0 5 0 0;car 1 5 " + first + " " + second + ";meal a " + firstRate + " "
+            + secondRate + REST)
             .demand(1, 0, 0);
     }
 
@@ -54,14 +55,16 @@ final class PlanEdges {
         });
         e.test("Section 2", "The demand of a train for a meal is the sum over its cars.", c -> {
             // Three cars with 1 tenth each want 1 meal each, so the train wants 3.
-            TrolleyPlanner p = Texts.plan(TWO_TRAINS + ";car 0 5 1 0;car 0 5 1 0;car 1 5 9 0;car 0 5 1 0;meal a 1 1" + REST + ";job 0 0 0 a 1");
+            TrolleyPlanner p = Texts.plan(TWO_TRAINS + ";car 0 5 1 0;car 0 5 1 0;car 1 5 9 0;car 0 5 1 0;meal a 1 1" + REST
+                + ";job 0 0 0 a 1");
             c.due("the demand of train 0", p.coverage(0, 0, true), 3);
             p.setQuantity(0, 2);
             c.due("two of three", p.coverage(0, 0, false), 2);
             p.setQuantity(0, 3);
             c.due("three of three", p.coverage(0, 0, true), 1);
             // Five cars of 396 meals: as much as there may be.
-            TrolleyPlanner most = Texts.plan(TWO_TRAINS + ";car 0 5 99 99".repeat(5) + ";car 1 5 0 0;meal a 20 20" + REST + ";job 0 0 0 a 1");
+            TrolleyPlanner most = Texts.plan(TWO_TRAINS + ";car 0 5 99 99".repeat(5) + ";car 1 5 0 0;meal a 20 20" + REST
+                + ";job 0 0 0 a 1");
             c.due("the greatest demand", most.coverage(0, 0, true), 1980);
             c.due("the least demand", most.coverage(1, 0, true), 1);
             c.due("the least demand is met", most.coverage(1, 0, false), 1);
@@ -149,7 +152,8 @@ final class PlanEdges {
 
     private static void departures(Edges e) {
         e.test("Promise 11", "Returns the departure of a train.", c -> {
-            TrolleyPlanner p = Texts.plan(LEAST.replace("train 0 from 0 to 99", "train 0 from 0 to 0").replace("to 99", "to 999"));
+            TrolleyPlanner p = Texts.plan(LEAST.replace("train 0 from 0 to 99", "train 0 from 0 to 0").replace("to 99",
+                "to 999"));
             c.answered("departure(0)", p, p.departure(0), 0);
             c.answered("departure(1)", p, p.departure(1), 999);
             p.setDeparture(1, 7);
@@ -210,7 +214,8 @@ final class PlanEdges {
                 for (int car = 0; car < 5; car++) {
                     for (int meal = 0; meal < 4; meal++) {
                         int tenths = car * 5 * meal + train * 10;
-                        c.answered("demand(" + train + ", " + car + ", " + meal + ")", p, p.demand(train, car, meal), (tenths + 9) / 10);
+                        c.answered("demand(" + train + ", " + car + ", " + meal + ")", p, p.demand(train, car, meal),
+                            (tenths + 9) / 10);
                     }
                 }
             }

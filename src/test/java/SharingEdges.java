@@ -17,7 +17,8 @@ final class SharingEdges {
     // ---- what the tests below share
 
     /**
-     * Cars with these demands for meal a, of train 0 and of train 1, and a job of that many meals (if any) to the first car of each.
+     * Cars with these demands for meal a, of train 0 and of train 1, and a job of that many meals (if any) to the first car
+     * of each.
      * Meal b has no demand.
      */
     private static TrolleyPlanner plan(int[] demands0, int meals0, int[] demands1, int meals1) {
@@ -99,7 +100,7 @@ final class SharingEdges {
     // ---- section 4
 
     private static void shares(Edges e) {
-        e.test("Section 4", "The meals of a kind that were delivered to all cars of a train are shared out among its cars.", c -> {
+        e.test("Section 4", "The meals of a kind that were delivered to all cars of a train are shared out among its", c -> {
             // To which car they were delivered, and what the other train and the other meal have, counts for nothing.
             TrolleyPlanner p = Texts.plan(TRAINS + ";car 0 0 3 0;car 0 0 3 0;car 1 0 3 0;meal a 10 0;meal b 10 0" + REST
                 + ";job 0 0 1 a 1;job 0 0 1 a 1;job 0 0 0 a 2;job 0 1 0 a 1;job 0 0 0 b 3");
@@ -109,6 +110,17 @@ final class SharingEdges {
             c.answered("share(0, 0, 1)", p, p.share(0, 0, 1), 2);
             c.answered("share(0, 1, 1)", p, p.share(0, 1, 1), 1);
             c.answered("share(1, 0, 1)", p, p.share(1, 0, 1), 0);
+            // All five cars, the last one among them; nothing of it is for the first car of the other train.
+            TrolleyPlanner five = Texts.plan(TRAINS + ";car 0 0 1 0".repeat(5) + ";car 1 0 1 0".repeat(5) + ";meal a 20 0"
+                + REST.replace("stock 0 b 999;", "") + ";job 0 0 4 a 3");
+            int[] due = {1, 1, 1, 0, 0};
+            for (int car = 0; car < 5; car++) {
+                c.answered("share(0, " + car + ", 0)", five, five.share(0, car, 0), due[car]);
+                c.answered("share(1, " + car + ", 0)", five, five.share(1, car, 0), 0);
+            }
+            c.answered("addJob", five, five.addJob(0, 1, 4, 0, 2), 2);
+            c.answered("share(1, 1, 0)", five, five.share(1, 1, 0), 1);
+            c.answered("share(0, 3, 0)", five, five.share(0, 3, 0), 0);
         });
         e.test("Section 4", "If they are at least the demand of the train, every car gets its demand.", c -> {
             shared(c, of(2, 7, 4), 12, 2, 6, 4);
@@ -150,7 +162,7 @@ final class SharingEdges {
     }
 
     private static void coverageOfATrain(Edges e) {
-        e.test("Section 4", "The coverage of a train in a meal is the number of delivered meals divided by its demand, at most 1", c -> {
+        e.test("Section 4", "The coverage of a train in a meal is the number of delivered meals divided by its demand,", c -> {
             covered(c, plan(of(4, 6), 0, of(1), 0), 0, 0, 0, 1);
             covered(c, plan(of(4, 6), 1, of(1), 0), 0, 0, 1, 10);
             covered(c, plan(of(4, 6), 9, of(1), 0), 0, 0, 9, 10);
@@ -182,8 +194,8 @@ final class SharingEdges {
         e.test("Promise 30", "Returns the number of meals; FAILED on an error: 1.", c -> {
             TrolleyPlanner none = new TrolleyPlanner();
             c.refused("share without a plan", none, none.share(0, 0, 0), 1);
-            TrolleyPlanner most = Texts.plan(TRAINS + ";car 0 0 99 99;car 1 0 0 0;meal a 20 20" + REST.replace("stock 0 b 999;", "")
-                + ";job 0 0 0 a 99".repeat(4));
+            TrolleyPlanner most = Texts.plan(TRAINS + ";car 0 0 99 99;car 1 0 0 0;meal a 20 20"
+                + REST.replace("stock 0 b 999;", "") + ";job 0 0 0 a 99".repeat(4));
             c.answered("the most meals", most, most.share(0, 0, 0), 396);
             c.answered("the fewest meals", most, most.share(1, 0, 0), 0);
         });
@@ -200,8 +212,8 @@ final class SharingEdges {
                 c.answered("carried without demand", p, p.carried(0, 1), 0);
             }
             // Nothing is carried where each car has its share, and only what is above the share moves.
-            TrolleyPlanner p = Texts.plan(TRAINS + ";car 1 0 3 0;car 1 0 3 0;car 0 0 3 0;meal a 10 0" + REST.replace("stock 0 b 999;", "")
-                + ";job 0 1 0 a 2;job 0 1 1 a 2");
+            TrolleyPlanner p = Texts.plan(TRAINS + ";car 1 0 3 0;car 1 0 3 0;car 0 0 3 0;meal a 10 0"
+                + REST.replace("stock 0 b 999;", "") + ";job 0 1 0 a 2;job 0 1 1 a 2");
             c.answered("carried(1, 0) with 2 and 2", p, p.carried(1, 0), 0);
             p.setQuantity(1, 3);
             c.answered("carried(1, 0) with 2 and 3", p, p.carried(1, 0), 1);
@@ -223,7 +235,7 @@ final class SharingEdges {
     }
 
     private static void jointShare(Edges e) {
-        e.test("Promise 32", "Returns how many meals a car would get if the meals of a kind that were delivered to both trains", c -> {
+        e.test("Promise 32", "Returns how many meals a car would get if the meals of a kind that were delivered to both", c -> {
             // At least the sum of both demands, 13: with 6 and 7, or all to one train.
             joint(c, plan(of(2, 4), 6, of(7), 7), of(2, 4), of(7));
             joint(c, plan(of(2, 4), 13, of(7), 0), of(2, 4), of(7));
@@ -239,6 +251,8 @@ final class SharingEdges {
             joint(c, plan(of(3), 1, of(3, 3, 3, 3, 3), 0), of(1), of(0, 0, 0, 0, 0));
             // All ten cars there may be, 9 meals, and 49 of 50.
             joint(c, plan(of(1, 1, 1, 1, 1), 5, of(1, 1, 1, 1, 1), 4), of(1, 1, 1, 1, 1), of(1, 1, 1, 1, 0));
+            joint(c, plan(of(1, 1, 1, 1, 1), 5, of(1, 1, 1, 1, 1), 5), of(1, 1, 1, 1, 1), of(1, 1, 1, 1, 1));
+            joint(c, plan(of(5, 4, 3, 2, 1), 99, of(6, 7, 8, 9, 10), 99), of(5, 4, 3, 2, 1), of(6, 7, 8, 9, 10));
             joint(c, plan(of(5, 5, 5, 5, 5), 49, of(5, 5, 5, 5, 5), 0), of(5, 5, 5, 5, 5), of(5, 5, 5, 5, 4));
             // No meals, no demand.
             joint(c, plan(of(3, 3), 0, of(3), 0), of(0, 0), of(0));
@@ -251,8 +265,8 @@ final class SharingEdges {
         e.test("Promise 32", "Returns the number of meals; FAILED on an error: 1.", c -> {
             TrolleyPlanner none = new TrolleyPlanner();
             c.refused("jointShare without a plan", none, none.jointShare(0, 0, 0), 1);
-            TrolleyPlanner most = Texts.plan(TRAINS + ";car 0 0 99 99;car 1 0 0 0;meal a 20 20" + REST.replace("stock 0 b 999;", "")
-                + ";job 0 1 0 a 99".repeat(4));
+            TrolleyPlanner most = Texts.plan(TRAINS + ";car 0 0 99 99;car 1 0 0 0;meal a 20 20"
+                + REST.replace("stock 0 b 999;", "") + ";job 0 1 0 a 99".repeat(4));
             c.answered("the most meals", most, most.jointShare(0, 0, 0), 396);
             c.answered("the fewest meals", most, most.jointShare(1, 0, 0), 0);
         });
@@ -261,9 +275,9 @@ final class SharingEdges {
     // ---- promises 33 to 35
 
     private static void coverage(Edges e) {
-        e.test("Promise 33", "Returns the numerator or the denominator of the coverage of a train in a meal, in lowest terms (0 is 0/1).", c -> {
-            int[][] due = {{0, 0, 1}, {1, 1, 12}, {2, 1, 6}, {3, 1, 4}, {4, 1, 3}, {5, 5, 12}, {6, 1, 2}, {8, 2, 3}, {9, 3, 4}, {10, 5, 6},
-                {11, 11, 12}, {12, 1, 1}, {13, 1, 1}, {24, 1, 1}};
+        e.test("Promise 33", "Returns the numerator or the denominator of the coverage of a train in a meal, in lowest", c -> {
+            int[][] due = {{0, 0, 1}, {1, 1, 12}, {2, 1, 6}, {3, 1, 4}, {4, 1, 3}, {5, 5, 12}, {6, 1, 2}, {8, 2, 3}, {9, 3, 4},
+                {10, 5, 6}, {11, 11, 12}, {12, 1, 1}, {13, 1, 1}, {24, 1, 1}};
             for (int[] one : due) {
                 covered(c, plan(of(12), one[0], of(3), 0), 0, 0, one[1], one[2]);
                 covered(c, plan(of(3), 0, of(5, 7), one[0]), 1, 0, one[1], one[2]);
@@ -292,9 +306,10 @@ final class SharingEdges {
     }
 
     private static void leastCoverage(Edges e) {
-        String text = TRAINS + ";car 0 0 9 9;car 1 0 9 9;meal a 10 0;meal b 0 10;meal c 0 0;meal d 10 10;kitchen 0;stock 0 a 99;stock 0 b 99;"
+        String text = TRAINS
+            + ";car 0 0 9 9;car 1 0 9 9;meal a 10 0;meal b 0 10;meal c 0 0;meal d 10 10;kitchen 0;stock 0 a 99;stock 0 b 99;"
             + "stock 0 d 99;trolley 0 99 1 1 1";
-        e.test("Promise 34", "Returns the numerator or the denominator of the least coverage of a train over all meals, in lowest terms.", c -> {
+        e.test("Promise 34", "Returns the numerator or the denominator of the least coverage of a train over all meals,", c -> {
             // 6 of 9, 3 of 9, no demand, 12 of 18.
             TrolleyPlanner p = Texts.plan(text + ";job 0 0 0 a 6;job 0 0 0 b 3;job 0 0 0 d 12");
             c.answered("of the second meal, above", p, p.leastCoverage(0, false), 1);
@@ -339,9 +354,10 @@ final class SharingEdges {
 
     private static void betterServed(Edges e) {
         e.test("Promise 35", "Compares the coverages of both trains in a meal.", c -> {
-            int[][] due = {{3, 1, 3, 1, -1}, {3, 1, 6, 2, -1}, {3, 1, 6, 1, 0}, {3, 1, 6, 3, 1}, {3, 0, 6, 0, -1}, {3, 0, 6, 1, 1},
-                {3, 3, 6, 6, -1}, {3, 9, 6, 7, -1}, {3, 3, 6, 5, 0}, {3, 2, 6, 6, 1}, {0, 0, 0, 0, -1}, {0, 0, 6, 6, -1}, {0, 0, 6, 5, 0},
-                {6, 5, 0, 0, 1}, {6, 0, 0, 9, 1}, {99, 98, 98, 97, 0}, {98, 97, 99, 98, 1}, {99, 66, 3, 2, -1}};
+            int[][] due = {{3, 1, 3, 1, -1}, {3, 1, 6, 2, -1}, {3, 1, 6, 1, 0}, {3, 1, 6, 3, 1}, {3, 0, 6, 0, -1},
+                {3, 0, 6, 1, 1}, {3, 3, 6, 6, -1}, {3, 9, 6, 7, -1}, {3, 3, 6, 5, 0}, {3, 2, 6, 6, 1}, {0, 0, 0, 0, -1},
+                {0, 0, 6, 6, -1}, {0, 0, 6, 5, 0}, {6, 5, 0, 0, 1}, {6, 0, 0, 9, 1}, {99, 98, 98, 97, 0}, {98, 97, 99, 98, 1},
+                {99, 66, 3, 2, -1}};
             for (int[] one : due) {
                 TrolleyPlanner p = plan(of(one[0]), one[1], of(one[2]), one[3]);
                 c.answered(one[1] + " of " + one[0] + " and " + one[3] + " of " + one[2], p, p.betterServed(0), one[4]);

@@ -5,12 +5,12 @@ import java.util.function.ToIntBiFunction;
 final class SimulationAnswersEdges {
     private static final String ONE = "trolley 0 99 1 1 1";
     /** The doors are a walk of 4 away; the trains are there from 10 to 60 and from 20 to 80. */
-    private static final String FAR = "train 0 from 10 to 60;train 1 from 20 to 80;car 0 4 9 9;car 1 4 9 9;meal a 10 10;meal b 1 1;"
-        + "kitchen 0;stock 0 a 50;";
+    private static final String FAR = "train 0 from 10 to 60;train 1 from 20 to 80;car 0 4 9 9;car 1 4 9 9;meal a 10 10;"
+        + "meal b 1 1;kitchen 0;stock 0 a 50;";
     /** Job 0 delivers 3 meals, job 1 has nothing to load, job 2 delivers 2 and job 3 delivers 6. */
     private static final String FOUR = FAR + ONE + ";job 0 0 0 a 3;job 0 0 0 b 3;job 0 1 0 a 2;job 0 0 0 a 6";
-    private static final String NEAR = "train 0 from 0 to 999;train 1 from 0 to 999;car 0 0 9 9;car 1 0 9 9;meal a 10 10;kitchen 0;"
-        + "stock 0 a 999;";
+    private static final String NEAR = "train 0 from 0 to 999;train 1 from 0 to 999;car 0 0 9 9;car 1 0 9 9;meal a 10 10;"
+        + "kitchen 0;stock 0 a 999;";
 
     static void tell(Edges e) {
         startTimes(e);
@@ -138,6 +138,10 @@ final class SimulationAnswersEdges {
             c.answered("unloaded(3) until 40", p, p.unloaded(3), 1);
             p.setDeparture(0, 39);
             c.answered("unloaded(3) until 39", p, p.unloaded(3), 0);
+            p.setStock(0, 0, 0);
+            for (int job = 0; job < 4; job++) {
+                c.answered("unloaded(" + job + ") when nothing is loaded any more", p, p.unloaded(job), 0);
+            }
         });
         jobIndex(e, "Promise 18", TrolleyPlanner::unloaded);
         e.test("Promise 18", "Returns the number of meals; FAILED on an error: 1.", c -> {
@@ -178,6 +182,8 @@ final class SimulationAnswersEdges {
             c.refused("unloadTime(4), no job", p, p.unloadTime(4), 1);
             p.setDeparture(0, 60);
             c.answered("unloadTime(3), all meals", p, p.unloadTime(3), 39);
+            p.setStock(0, 0, 0);
+            c.refused("unloadTime(3), nothing is loaded any more", p, p.unloadTime(3), 6);
         });
     }
 
@@ -200,8 +206,8 @@ final class SimulationAnswersEdges {
             TrolleyPlanner none = new TrolleyPlanner();
             noPlan(c, none::finishTime, none);
             // As long as eight jobs can take: one ends at the last departure, seven load 99 * 5 units and walk 99 twice in vain.
-            TrolleyPlanner p = Texts.plan("train 0 from 900 to 999;train 1 from 0 to 0;car 0 99 9 9;car 1 99 9 9;meal a 1 1;kitchen 0;"
-                + "stock 0 a 999;trolley 0 99 1 5 1;job 0 0 0 a 99" + ";job 0 1 0 a 99".repeat(7));
+            TrolleyPlanner p = Texts.plan("train 0 from 900 to 999;train 1 from 0 to 0;car 0 99 9 9;car 1 99 9 9;meal a 1 1;"
+                + "kitchen 0;stock 0 a 999;trolley 0 99 1 5 1;job 0 0 0 a 99" + ";job 0 1 0 a 99".repeat(7));
             c.answered("finishTime(0)", p, p.finishTime(0), 1098);
             c.answered("finishTime(7)", p, p.finishTime(7), 1098 + 7 * (99 * 5 + 99 + 99));
         });
@@ -218,6 +224,8 @@ final class SimulationAnswersEdges {
             c.answered("delivered(0, 0, 1), nothing to load", p, p.delivered(0, 0, 1), 0);
             p.setDeparture(0, 40);
             c.answered("delivered(0, 0, 0), only what is unloaded", p, p.delivered(0, 0, 0), 4);
+            p.setStock(0, 0, 0);
+            c.answered("delivered(0, 0, 0), nothing is loaded any more", p, p.delivered(0, 0, 0), 0);
         });
         carMealIndices(e, "Promise 21", TrolleyPlanner::delivered);
         e.test("Promise 21", "Returns the number of meals; FAILED on an error: 1.", c -> {
@@ -225,7 +233,8 @@ final class SimulationAnswersEdges {
             noPlan(c, train -> none.delivered(train, 0, 0), none);
             // Eight jobs of 99 meals to one car.
             TrolleyPlanner p = Texts.plan(NEAR + ONE + ";" + ONE + ";" + ONE + ";" + ONE + ";" + ONE
-                + ";job 0 0 0 a 99;job 0 0 0 a 99;job 1 0 0 a 99;job 1 0 0 a 99;job 2 0 0 a 99;job 2 0 0 a 99;job 3 0 0 a 99;job 3 0 0 a 99");
+                + ";job 0 0 0 a 99;job 0 0 0 a 99;job 1 0 0 a 99;job 1 0 0 a 99;job 2 0 0 a 99;job 2 0 0 a 99;"
+                + "job 3 0 0 a 99;job 3 0 0 a 99");
             c.answered("eight times 99 meals", p, p.delivered(0, 0, 0), 792);
             c.answered("the fewest", p, p.delivered(1, 0, 0), 0);
         });
@@ -264,7 +273,8 @@ final class SimulationAnswersEdges {
         e.test("Promise 23", "Returns the number of meals; FAILED on an error: 1.", c -> {
             TrolleyPlanner none = new TrolleyPlanner();
             noPlan(c, none::leftBehind, none);
-            TrolleyPlanner p = Texts.plan(NEAR.replace("train 0 from 0 to 999", "train 0 from 0 to 0") + ONE + ";" + ONE + ";job 0 0 0 a 99".repeat(8));
+            TrolleyPlanner p = Texts.plan(NEAR.replace("train 0 from 0 to 999", "train 0 from 0 to 0") + ONE + ";" + ONE
+                + ";job 0 0 0 a 99".repeat(8));
             c.answered("the most", p, p.leftBehind(0), 792);
             c.answered("without jobs", p, p.leftBehind(1), 0);
         });
@@ -277,6 +287,25 @@ final class SimulationAnswersEdges {
             p.setDeparture(0, 10);
             p.setDeparture(1, 20);
             c.answered("finalStock(0, 0) when all came back", p, p.finalStock(0, 0), 50);
+            // Each kitchen and each meal there may be; a job takes of the last one.
+            TrolleyPlanner all = Texts.plan(Texts.full());
+            for (int job = 0; job < 20; job++) {
+                all.removeJob(0);
+            }
+            for (int stock = 0; stock < 12; stock++) {
+                int due = 100 * (stock / 4) + stock % 4;
+                c.answered("finalStock(" + stock / 4 + ", " + stock % 4 + ")", all, all.finalStock(stock / 4, stock % 4), due);
+            }
+            all.addJob(2, 0, 0, 3, 5);
+            c.answered("loaded(0)", all, all.loaded(0), 5);
+            c.answered("finalStock(2, 3)", all, all.finalStock(2, 3), 198);
+            // Twenty jobs that leave a meal behind each: the last one comes back, too.
+            TrolleyPlanner vain = Texts.plan("train 0 from 0 to 0;train 1 from 0 to 9;car 0 1 1 1;car 1 1 1 1;meal a 1 1;"
+                + "kitchen 0;stock 0 a 9;"
+                + (ONE + ";").repeat(3) + "job 0 0 0 a 1;job 1 0 0 a 1;".repeat(8) + "job 2 0 0 a 1;".repeat(3)
+                + "job 2 0 0 a 1");
+            c.answered("leftBehind(0)", vain, vain.leftBehind(0), 8);
+            c.answered("finalStock(0, 0) when the twentieth came back", vain, vain.finalStock(0, 0), 9);
         });
         e.test("Promise 24", "- `kitchen`: index of the kitchen", c -> {
             TrolleyPlanner full = Texts.plan(Texts.full());
@@ -320,7 +349,8 @@ final class SimulationAnswersEdges {
                 p.setQuantity(0, one[0]);
                 c.answered("shortage with " + one[0], p, p.shortage(0, 0, 0), one[1]);
             }
-            TrolleyPlanner most = Texts.plan(NEAR.replace("car 0 0 9 9", "car 0 0 99 99").replace("meal a 10 10", "meal a 20 20") + ONE);
+            TrolleyPlanner most = Texts.plan(NEAR.replace("car 0 0 9 9", "car 0 0 99 99").replace("meal a 10 10",
+                "meal a 20 20") + ONE);
             c.answered("the greatest", most, most.shortage(0, 0, 0), 396);
         });
     }
@@ -353,6 +383,10 @@ final class SimulationAnswersEdges {
             }
             TrolleyPlanner none = Texts.plan(NEAR.replace("a 999", "a 0").replace("from 0", "from 900") + ONE + ";job 0 0 0 a 1");
             c.answered("longestWait without meals", none, none.longestWait(0), 0);
+            none.setStock(0, 0, 1);
+            c.answered("longestWait with a meal", none, none.longestWait(0), 899);
+            none.setStock(0, 0, 0);
+            c.answered("longestWait without meals again", none, none.longestWait(0), 0);
         });
         trolleyIndex(e, "Promise 26", TrolleyPlanner::longestWait);
         e.test("Promise 26", "Returns the time, 0 if there is no such job; FAILED on an error: 1.", c -> {
@@ -366,13 +400,15 @@ final class SimulationAnswersEdges {
     }
 
     private static void busyDoors(Edges e) {
-        e.test("Promise 27", "Returns for how many units the door of a car is occupied by unloading, in all jobs together.", c -> {
+        e.test("Promise 27", "Returns for how many units the door of a car is occupied by unloading, in all jobs", c -> {
             TrolleyPlanner p = Texts.plan(FOUR + ";trolley 0 99 1 1 5;job 1 1 0 a 2");
             c.answered("doorBusy(0, 0)", p, p.doorBusy(0, 0), 9);
             c.answered("doorBusy(1, 0)", p, p.doorBusy(1, 0), 12);
             // Job 2 has to wait for the door until 30, so that job 3 reaches its door at 46.
             p.setDeparture(0, 47);
             c.answered("doorBusy(0, 0), less is unloaded", p, p.doorBusy(0, 0), 4);
+            p.setStock(0, 0, 0);
+            c.answered("doorBusy(0, 0), nothing is loaded any more", p, p.doorBusy(0, 0), 0);
         });
         e.test("Promise 27", "- `train`: 0 or 1", c -> {
             TrolleyPlanner full = Texts.plan(Texts.full());
@@ -407,9 +443,9 @@ final class SimulationAnswersEdges {
     private static void states(Edges e) {
         e.test("Promise 28", "Returns what a trolley does from a time on", c -> {
             TrolleyPlanner p = Texts.plan(FOUR);
-            doing(c, p, 0, new int[][] {{0, 1}, {2, 1}, {3, 2}, {6, 2}, {7, 3}, {9, 3}, {10, 4}, {12, 4}, {13, 5}, {16, 5}, {17, 1}, {18, 1},
-                {19, 2}, {22, 2}, {23, 4}, {24, 4}, {25, 5}, {28, 5}, {29, 1}, {34, 1}, {35, 2}, {38, 2}, {39, 4}, {44, 4}, {45, 5}, {48, 5},
-                {49, 0}, {50, 0}, {9999, 0}});
+            doing(c, p, 0, new int[][] {{0, 1}, {2, 1}, {3, 2}, {6, 2}, {7, 3}, {9, 3}, {10, 4}, {12, 4}, {13, 5}, {16, 5},
+                {17, 1}, {18, 1}, {19, 2}, {22, 2}, {23, 4}, {24, 4}, {25, 5}, {28, 5}, {29, 1}, {34, 1}, {35, 2}, {38, 2},
+                {39, 4}, {44, 4}, {45, 5}, {48, 5}, {49, 0}, {50, 0}, {9999, 0}});
             // Walking back in vain comes right behind the walk to the door, without a wait.
             p.setDeparture(0, 10);
             doing(c, p, 0, new int[][] {{6, 2}, {7, 5}, {10, 5}, {11, 1}});
@@ -425,7 +461,8 @@ final class SimulationAnswersEdges {
             TrolleyPlanner wait = Texts.plan(NEAR.replace("train 0 from 0", "train 0 from 3") + ONE + ";job 0 0 0 a 2");
             doing(c, wait, 0, new int[][] {{1, 1}, {2, 3}, {3, 4}, {4, 4}, {5, 0}});
             // Jobs without meals, first, between and last.
-            TrolleyPlanner some = Texts.plan(NEAR + "meal b 1 1;" + ONE + ";job 0 0 0 b 1;job 0 0 0 a 1;job 0 0 0 b 1;job 0 0 0 a 1;job 0 0 0 b 1");
+            TrolleyPlanner some = Texts.plan(NEAR + "meal b 1 1;" + ONE
+                + ";job 0 0 0 b 1;job 0 0 0 a 1;job 0 0 0 b 1;job 0 0 0 a 1;job 0 0 0 b 1");
             doing(c, some, 0, new int[][] {{0, 1}, {1, 4}, {2, 1}, {3, 4}, {4, 0}});
             TrolleyPlanner none = Texts.plan(NEAR.replace("a 999", "a 0") + ONE + ";job 0 0 0 a 1");
             doing(c, none, 0, new int[][] {{0, 0}});
@@ -458,7 +495,8 @@ final class SimulationAnswersEdges {
         e.test("Promise 29", "Returns how many meals are on a trolley at a time.", c -> {
             TrolleyPlanner p = Texts.plan(FOUR);
             // Walking, waiting, walking back empty; the second job starts at 17, the last one at 29.
-            aboard(c, p, new int[][] {{3, 3}, {6, 3}, {7, 3}, {9, 3}, {10, 3}, {13, 0}, {16, 0}, {17, 0}, {19, 2}, {23, 2}, {28, 0}, {35, 6}});
+            aboard(c, p, new int[][] {{3, 3}, {6, 3}, {7, 3}, {9, 3}, {10, 3}, {13, 0}, {16, 0}, {17, 0}, {19, 2}, {23, 2},
+                {28, 0}, {35, 6}});
             p.setDeparture(0, 41);
             // Two of six are unloaded from 39 on, and four come back until 45.
             aboard(c, p, new int[][] {{38, 6}, {39, 6}, {40, 5}, {41, 4}, {44, 4}, {45, 0}});
@@ -468,14 +506,14 @@ final class SimulationAnswersEdges {
         e.test("Promise 29", "While it loads, these are the meals that are loaded completely by then; while it unloads", c -> {
             // 3 meals, 4 units each until 12; a walk until 16; 5 units each until 31; a walk until 35.
             TrolleyPlanner p = Texts.plan(FAR + "trolley 0 99 1 4 5;job 0 0 0 a 3");
-            aboard(c, p, new int[][] {{0, 0}, {3, 0}, {4, 1}, {7, 1}, {8, 2}, {11, 2}, {12, 3}, {15, 3}, {16, 3}, {20, 3}, {21, 2}, {25, 2}, {26, 1},
-                {30, 1}, {31, 0}, {34, 0}, {35, 0}});
+            aboard(c, p, new int[][] {{0, 0}, {3, 0}, {4, 1}, {7, 1}, {8, 2}, {11, 2}, {12, 3}, {15, 3}, {16, 3}, {20, 3},
+                {21, 2}, {25, 2}, {26, 1}, {30, 1}, {31, 0}, {34, 0}, {35, 0}});
             TrolleyPlanner quick = Texts.plan(NEAR + ONE + ";job 0 0 0 a 2");
             aboard(c, quick, new int[][] {{0, 0}, {1, 1}, {2, 2}, {3, 1}, {4, 0}});
         });
         trolleyIndex(e, "Promise 29", (p, trolley) -> p.mealsOn(trolley, 9999));
         timeIndex(e, "Promise 29", (p, time) -> p.mealsOn(0, time));
-        e.test("Promise 29", "Returns the number of meals, 0 when all its jobs are finished; FAILED on an error: 1 for trolley; 2 for time.", c -> {
+        e.test("Promise 29", "Returns the number of meals, 0 when all its jobs are finished; FAILED on an error: 1 for", c -> {
             TrolleyPlanner none = new TrolleyPlanner();
             noPlan(c, trolley -> none.mealsOn(trolley, 0), none);
             c.refused("mealsOn(0, -1) without a plan", none, none.mealsOn(0, -1), 1);

@@ -56,9 +56,10 @@ final class SimulationEdges {
             job(c, plan("0 to 2", "0 to 2", 0, 0, 9, ONE + ";job 0 0 0 a 1"), 0, 0, 1, 2);
         });
         e.test("Section 3", "All places lie on a line; walking from one place to another one takes a trolley", c -> {
-            int[][] ways = {{0, 1, 0}, {0, 9, 0}, {1, 1, 1}, {1, 2, 1}, {1, 9, 1}, {2, 2, 1}, {3, 2, 2}, {8, 9, 1}, {9, 9, 1}, {10, 9, 2},
-                {18, 9, 2}, {19, 9, 3}, {98, 9, 11}, {99, 9, 11}, {90, 9, 10}, {91, 9, 11}, {99, 1, 99}, {98, 1, 98}, {98, 2, 49},
-                {99, 2, 50}, {99, 5, 20}, {96, 5, 20}, {95, 5, 19}, {99, 8, 13}, {96, 8, 12}, {97, 8, 13}, {99, 7, 15}, {98, 7, 14}};
+            int[][] ways = {{0, 1, 0}, {0, 9, 0}, {1, 1, 1}, {1, 2, 1}, {1, 9, 1}, {2, 2, 1}, {3, 2, 2}, {8, 9, 1}, {9, 9, 1},
+                {10, 9, 2}, {18, 9, 2}, {19, 9, 3}, {98, 9, 11}, {99, 9, 11}, {90, 9, 10}, {91, 9, 11}, {99, 1, 99},
+                {98, 1, 98}, {98, 2, 49}, {99, 2, 50}, {99, 5, 20}, {96, 5, 20}, {95, 5, 19}, {99, 8, 13}, {96, 8, 12},
+                {97, 8, 13}, {99, 7, 15}, {98, 7, 14}};
             for (int[] way : ways) {
                 String rest = "trolley 0 99 " + way[1] + " 1 1;job 0 0 0 a 1";
                 job(c, plan("0 to 999", "0 to 999", 0, way[0], 9, rest), 0, 0, 1 + way[2], 2 + 2 * way[2]);
@@ -66,9 +67,10 @@ final class SimulationEdges {
                 job(c, plan("0 to 999", "0 to 999", 99 - way[0], 99, 9, rest), 0, 0, 1 + way[2], 2 + 2 * way[2]);
             }
         });
-        e.test("Section 3", "Every trolley starts at time 0 at its kitchen and does its jobs in the order of their numbers.", c -> {
-            TrolleyPlanner p = Texts.plan("train 0 from 0 to 99;train 1 from 0 to 99;car 0 9 9 9;car 1 9 9 9;meal a 1 1;kitchen 9;"
-                + "kitchen 6;kitchen 0;stock 0 a 99;stock 1 a 99;stock 2 a 99;trolley 0 9 1 1 1;trolley 2 9 1 1 1;trolley 1 9 1 1 1;"
+        e.test("Section 3", "Every trolley starts at time 0 at its kitchen and does its jobs in the order of their", c -> {
+            TrolleyPlanner p = Texts.plan("train 0 from 0 to 99;train 1 from 0 to 99;car 0 9 9 9;car 1 9 9 9;meal a 1 1;"
+                + "kitchen 9;kitchen 6;kitchen 0;stock 0 a 99;stock 1 a 99;stock 2 a 99;trolley 0 9 1 1 1;trolley 2 9 1 1 1;"
+                + "trolley 1 9 1 1 1;"
                 + "trolley 2 9 1 1 1;job 2 0 0 a 1;job 1 0 0 a 1;job 0 0 0 a 3;job 0 0 0 a 1;job 1 1 0 a 1;job 2 1 0 a 1");
             job(c, p, 2, 0, 3, 6);
             job(c, p, 0, 0, 6, 10);
@@ -85,10 +87,11 @@ final class SimulationEdges {
     private static void loading(Edges e) {
         e.test("Section 3", "Loading: when the trolley starts the job, it takes meals of the kind of the job", c -> {
             int[][] cases = {{5, 6, 7, 5}, {6, 5, 7, 5}, {7, 6, 5, 5}, {5, 5, 5, 5}, {4, 5, 5, 4}, {5, 4, 5, 4}, {5, 5, 4, 4},
-                {1, 1, 1, 1}, {1, 99, 999, 1}, {99, 1, 999, 1}, {99, 99, 1, 1}, {99, 99, 999, 99}, {99, 99, 99, 99}, {99, 99, 98, 98},
-                {99, 98, 99, 98}, {98, 99, 99, 98}, {99, 99, 100, 99}, {1, 1, 0, 0}, {99, 99, 0, 0}};
+                {1, 1, 1, 1}, {1, 99, 999, 1}, {99, 1, 999, 1}, {99, 99, 1, 1}, {99, 99, 999, 99}, {99, 99, 99, 99},
+                {99, 99, 98, 98}, {99, 98, 99, 98}, {98, 99, 99, 98}, {99, 99, 100, 99}, {1, 1, 0, 0}, {99, 99, 0, 0}};
             for (int[] one : cases) {
-                TrolleyPlanner p = plan("0 to 999", "0 to 999", 0, 0, one[2], "trolley 0 " + one[1] + " 1 1 1;job 0 0 0 a " + one[0]);
+                TrolleyPlanner p = plan("0 to 999", "0 to 999", 0, 0, one[2], "trolley 0 " + one[1] + " 1 1 1;job 0 0 0 a "
+                    + one[0]);
                 meals(c, p, 0, one[3], one[3]);
                 c.answered("finalStock(0, 0)", p, p.finalStock(0, 0), one[2] - one[3]);
                 c.answered("finalStock(0, 1), of another kind", p, p.finalStock(0, 1), 99);
@@ -123,7 +126,7 @@ final class SimulationEdges {
     }
 
     private static void nothingToTake(Edges e) {
-        e.test("Section 3", "If there is nothing to take, the job is finished at once, and the next job starts at the same time.", c -> {
+        e.test("Section 3", "If there is nothing to take, the job is finished at once, and the next job starts at the", c -> {
             TrolleyPlanner none = plan("0 to 999", "0 to 999", 0, 4, 0, ONE + Texts.eightJobs(0, 0));
             for (int job = 0; job < 8; job++) {
                 job(c, none, job, 0, -1, 0);
@@ -159,7 +162,8 @@ final class SimulationEdges {
                 c.answered("longestWait(0)", p, p.longestWait(0), due - 9);
             }
             // Another trolley ends there at 8, 9 or 10.
-            String[] others = {"trolley 0 99 1 1 3;job 1 0 0 a 2", "trolley 0 99 1 1 2;job 1 0 0 a 3", "trolley 0 99 1 1 1;job 1 0 0 a 5"};
+            String[] others = {"trolley 0 99 1 1 3;job 1 0 0 a 2", "trolley 0 99 1 1 2;job 1 0 0 a 3",
+                "trolley 0 99 1 1 1;job 1 0 0 a 5"};
             for (int k = 0; k < others.length; k++) {
                 TrolleyPlanner p = near(ONE + ";job 0 0 0 a 9;" + others[k]);
                 int due = Math.max(9, 8 + k);
@@ -187,7 +191,7 @@ final class SimulationEdges {
     }
 
     private static void doors(Edges e) {
-        e.test("Section 3", "A door is free until unloading at it begins, and again from the time at which that unloading ends.", c -> {
+        e.test("Section 3", "A door is free until unloading at it begins, and again from the time at which that", c -> {
             // Trolley 0 unloads from 3 to 9; trolley 1 reaches the door at 8, 9 or 10.
             for (int reach = 8; reach <= 10; reach++) {
                 TrolleyPlanner p = near("trolley 0 99 1 1 2;" + ONE + ";job 0 0 0 a 3;job 1 0 0 a " + reach);
@@ -206,7 +210,7 @@ final class SimulationEdges {
             TrolleyPlanner other = near(ONE + ";" + ONE + ";job 0 0 0 a 5;job 1 1 0 a 5");
             job(c, other, 1, 0, 5, 10);
         });
-        e.test("Section 3", "A trolley that reaches a door before another one (in this order) unloads before it, or not at all.", c -> {
+        e.test("Section 3", "A trolley that reaches a door before another one (in this order) unloads before it, or not", c -> {
             // Both wait for the train; the first one has more meals, and still goes first.
             TrolleyPlanner p = plan("50 to 999", "0 to 999", 0, 0, 999, ONE + ";" + ONE + ";job 0 0 0 a 9;job 1 0 0 a 8");
             job(c, p, 1, 0, 50, 58);
@@ -215,11 +219,13 @@ final class SimulationEdges {
             job(c, equal, 1, 0, 50, 58);
             job(c, equal, 0, 0, 58, 66);
             // The first one cannot unload a meal in time: the second one has the door as if it had not been there.
-            TrolleyPlanner not = plan("50 to 54", "0 to 999", 0, 0, 999, "trolley 0 99 1 1 5;" + ONE + ";job 0 0 0 a 3;job 1 0 0 a 4");
+            TrolleyPlanner not = plan("50 to 54", "0 to 999", 0, 0, 999, "trolley 0 99 1 1 5;" + ONE
+                + ";job 0 0 0 a 3;job 1 0 0 a 4");
             job(c, not, 0, 0, -1, 3);
             job(c, not, 1, 0, 50, 54);
             meals(c, not, 1, 4, 4);
-            TrolleyPlanner just = plan("50 to 55", "0 to 999", 0, 0, 999, "trolley 0 99 1 1 5;" + ONE + ";job 0 0 0 a 3;job 1 0 0 a 4");
+            TrolleyPlanner just = plan("50 to 55", "0 to 999", 0, 0, 999, "trolley 0 99 1 1 5;" + ONE
+                + ";job 0 0 0 a 3;job 1 0 0 a 4");
             job(c, just, 0, 0, 50, 55);
             meals(c, just, 0, 3, 1);
             job(c, just, 1, 0, -1, 4);
@@ -227,14 +233,26 @@ final class SimulationEdges {
     }
 
     private static void howMany(Edges e) {
-        e.test("Section 3", "The trolley unloads as many of its meals as can be unloaded completely from that beginning until the DEPARTURE", c -> {
+        e.test("Section 3", "The trolley unloads as many of its meals as can be unloaded completely from that beginning", c -> {
             // Three meals, 5 units each, from 3 on.
-            int[][] until = {{0, 0}, {2, 0}, {3, 0}, {7, 0}, {8, 1}, {9, 1}, {12, 1}, {13, 2}, {17, 2}, {18, 3}, {19, 3}, {23, 3}, {999, 3}};
+            int[][] until = {{0, 0}, {2, 0}, {3, 0}, {7, 0}, {8, 1}, {9, 1}, {12, 1}, {13, 2}, {17, 2}, {18, 3}, {19, 3},
+                {23, 3}, {999, 3}};
             for (int[] one : until) {
                 TrolleyPlanner p = plan("0 to " + one[0], "0 to 999", 0, 0, 999, "trolley 0 99 1 1 5;job 0 0 0 a 3");
                 meals(c, p, 0, 3, one[1]);
                 job(c, p, 0, 0, one[1] == 0 ? -1 : 3, 3 + 5 * one[1]);
                 c.answered("leftBehind(0)", p, p.leftBehind(0), 3 - one[1]);
+            }
+            // The departure is that of the car's train: the last car of train 0 and the first one of train 1.
+            for (int car = 0; car < 5; car++) {
+                String cars = "car 0 0 1 1;".repeat(5) + "car 1 0 1 1;".repeat(5);
+                TrolleyPlanner p = Texts.plan("train 0 from 0 to 11;train 1 from 14 to 99;" + cars
+                    + "meal a 1 1;kitchen 0;stock 0 a 99;" + ONE
+                    + ";" + ONE + ";job 0 0 " + car + " a 9;job 1 1 " + car + " a 9");
+                meals(c, p, 0, 9, 2);
+                job(c, p, 0, 0, 9, 11);
+                meals(c, p, 1, 9, 9);
+                job(c, p, 1, 0, 14, 23);
             }
             // From a later beginning: 99 meals from 900 on.
             int[][] late = {{900, 0}, {901, 1}, {902, 2}, {998, 98}, {999, 99}};
@@ -245,15 +263,18 @@ final class SimulationEdges {
             // From the end of another unloading, at 10.
             int[][] door = {{10, 0}, {11, 1}, {12, 2}, {15, 5}, {16, 6}, {17, 6}};
             for (int[] one : door) {
-                TrolleyPlanner p = plan("5 to " + one[0], "0 to 999", 0, 0, 999, ONE + ";" + ONE + ";job 0 0 0 a 5;job 1 0 0 a 6");
+                TrolleyPlanner p = plan("5 to " + one[0], "0 to 999", 0, 0, 999, ONE + ";" + ONE
+                    + ";job 0 0 0 a 5;job 1 0 0 a 6");
                 meals(c, p, 0, 5, 5);
                 meals(c, p, 1, 6, one[1]);
             }
         });
-        e.test("Section 3", "If that is none, the trolley walks back at the time at which it reached the door, and the door is not used.", c -> {
+        e.test("Section 3", "If that is none, the trolley walks back at the time at which it reached the door, and the", c -> {
             // It reaches the door at 7, and is back at 11, whenever the train comes.
-            for (String train : new String[] {"0 to 0", "0 to 6", "0 to 7", "0 to 11", "7 to 11", "900 to 900", "900 to 904", "8 to 12"}) {
-                TrolleyPlanner p = plan(train, "0 to 999", 0, 4, 999, "trolley 0 99 1 1 5;" + ONE + ";job 0 0 0 a 3;job 0 1 0 a 1");
+            for (String train : new String[] {"0 to 0", "0 to 6", "0 to 7", "0 to 11", "7 to 11", "900 to 900", "900 to 904",
+                "8 to 12"}) {
+                TrolleyPlanner p = plan(train, "0 to 999", 0, 4, 999, "trolley 0 99 1 1 5;" + ONE
+                    + ";job 0 0 0 a 3;job 0 1 0 a 1");
                 job(c, p, 0, 0, -1, 11);
                 c.answered("doorBusy(0, 0)", p, p.doorBusy(0, 0), 0);
                 c.answered("stateAt(0, 6)", p, p.stateAt(0, 6), 2);
@@ -308,9 +329,11 @@ final class SimulationEdges {
 
     private static void returning(Edges e) {
         e.test("Section 3", "The meals that were not unloaded are left behind", c -> {
-            // Trolley 1 takes all, reaches the door at 10 in vain and is back at 15; trolley 0 starts its second job at 14, 15 or 16.
+            // Trolley 1 takes all, reaches the door at 10 in vain and is back at 15.
+            // Trolley 0 starts its second job at 14, 15 or 16.
             for (int start = 14; start <= 16; start++) {
-                // 7 + 7 = 14 and 8 + 8 = 16 units beside the kitchen; 6 + 1, a unit of waiting, 6 + 1 = 15 units with a walk of 1.
+                // 7 + 7 = 14 and 8 + 8 = 16 units beside the kitchen.
+                // With a walk of 1 to the door 6 + 1, a unit of waiting, 6 + 1 = 15 units.
                 String firstJob = start == 15 ? "job 0 1 1 b 6" : "job 0 1 0 b " + start / 2;
                 TrolleyPlanner p = Texts.plan("train 0 from 0 to 0;train 1 from " + (start == 15 ? 8 : 0) + " to 99;car 0 5 9 9;"
                     + "car 1 0 9 9;car 1 1 9 9;meal a 1 1;meal b 1 1;kitchen 0;stock 0 a 5;stock 0 b 99;" + ONE + ";" + ONE
@@ -321,14 +344,21 @@ final class SimulationEdges {
                 c.answered("finalStock(0, 0)", p, p.finalStock(0, 0), start < 15 ? 5 : 0);
                 c.answered("leftBehind(1)", p, p.leftBehind(1), 5);
             }
+            // The same with the numbers exchanged: trolley 0 is back at 15, trolley 1 starts its second job at 14.
+            TrolleyPlanner sooner = Texts.plan("train 0 from 0 to 0;train 1 from 0 to 99;car 0 5 9 9;car 1 0 9 9;meal a 1 1;"
+                + "meal b 1 1;"
+                + "kitchen 0;stock 0 a 5;stock 0 b 99;" + ONE + ";" + ONE + ";job 1 1 0 b 7;job 0 0 0 a 5;job 1 1 0 a 9");
+            c.answered("finishTime(1)", sooner, sooner.finishTime(1), 15);
+            c.answered("startTime(2)", sooner, sooner.startTime(2), 14);
+            meals(c, sooner, 2, 0, 0);
             // Only those that were not unloaded return: 2 of 5.
             TrolleyPlanner some = plan("0 to 13", "0 to 999", 0, 5, 5, ONE + ";job 0 0 0 a 5;job 0 1 0 a 9");
             meals(c, some, 0, 5, 3);
             job(c, some, 0, 0, 10, 18);
             meals(c, some, 1, 2, 2);
             // They return to the kitchen of the trolley, and as meals of their kind.
-            TrolleyPlanner own = Texts.plan("train 0 from 0 to 0;train 1 from 0 to 99;car 0 5 9 9;car 1 0 9 9;meal a 1 1;meal b 1 1;"
-                + "kitchen 0;kitchen 0;stock 1 b 7;trolley 1 9 1 1 1;job 0 0 0 b 4");
+            TrolleyPlanner own = Texts.plan("train 0 from 0 to 0;train 1 from 0 to 99;car 0 5 9 9;car 1 0 9 9;meal a 1 1;"
+                + "meal b 1 1;kitchen 0;kitchen 0;stock 1 b 7;trolley 1 9 1 1 1;job 0 0 0 b 4");
             c.answered("finalStock(1, 1)", own, own.finalStock(1, 1), 7);
             c.answered("finalStock(1, 0)", own, own.finalStock(1, 0), 0);
             c.answered("finalStock(0, 1)", own, own.finalStock(0, 1), 0);
@@ -336,8 +366,8 @@ final class SimulationEdges {
         });
         e.test("Section 3", "Meals return to the stock before anything else that happens at that time", c -> {
             // At 15 trolley 1 or 0 is back with 5 meals and the other one starts a job: it gets them, whichever its number is.
-            String text = "train 0 from 0 to 0;train 1 from 8 to 99;car 0 5 9 9;car 1 1 9 9;car 1 0 9 9;meal a 1 1;meal b 1 1;kitchen 0;"
-                + "stock 0 a 5;stock 0 b 99;" + ONE + ";" + ONE;
+            String text = "train 0 from 0 to 0;train 1 from 8 to 99;car 0 5 9 9;car 1 1 9 9;car 1 0 9 9;meal a 1 1;"
+                + "meal b 1 1;kitchen 0;stock 0 a 5;stock 0 b 99;" + ONE + ";" + ONE;
             for (int t = 0; t < 2; t++) {
                 TrolleyPlanner p = Texts.plan(text + ";job " + t + " 1 0 b 6;job " + (1 - t) + " 0 0 a 5;job " + t + " 1 1 a 9");
                 c.answered("finishTime(1)", p, p.finishTime(1), 15);
@@ -356,9 +386,11 @@ final class SimulationEdges {
                 c.answered("finalStock(0, 0)", p, p.finalStock(0, 0), t == 1 ? 0 : 5);
             }
             // Something was unloaded beside the kitchen, until 8: then they return before all else at 8.
-            String partly = near.replace("train 0 from 0 to 0", "train 0 from 0 to 8").replace("train 1 from 3", "train 1 from 4");
+            String partly = near.replace("train 0 from 0 to 0", "train 0 from 0 to 8").replace("train 1 from 3",
+                "train 1 from 4");
             for (int t = 0; t < 2; t++) {
-                TrolleyPlanner p = Texts.plan(partly + ";job " + t + " 1 0 b 4;job " + (1 - t) + " 0 0 a 5;job " + t + " 1 0 a 9");
+                TrolleyPlanner p = Texts.plan(partly + ";job " + t + " 1 0 b 4;job " + (1 - t) + " 0 0 a 5;job " + t
+                    + " 1 0 a 9");
                 job(c, p, 1, 0, 5, 8);
                 c.answered("startTime(2)", p, p.startTime(2), 8);
                 c.answered("loaded(2) of trolley " + t, p, p.loaded(2), 2);
@@ -396,7 +428,8 @@ final class SimulationEdges {
             job(c, sooner, 0, 0, 4, 8);
             job(c, sooner, 1, 0, 8, 13);
             // Five trolleys at once.
-            TrolleyPlanner five = near((ONE + ";").repeat(5) + "job 4 0 0 a 2;job 3 0 0 a 2;job 2 0 0 a 2;job 1 0 0 a 2;job 0 0 0 a 2");
+            TrolleyPlanner five = near((ONE + ";").repeat(5)
+                + "job 4 0 0 a 2;job 3 0 0 a 2;job 2 0 0 a 2;job 1 0 0 a 2;job 0 0 0 a 2");
             for (int job = 0; job < 5; job++) {
                 c.answered("unloadTime(" + job + ")", five, five.unloadTime(job), 2 + 2 * (4 - job));
             }

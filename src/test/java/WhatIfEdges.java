@@ -1,3 +1,5 @@
+import java.util.function.ToIntFunction;
+
 /** The edges of promises 40 to 44: what-if questions. */
 final class WhatIfEdges {
     /** The doors are at the kitchen: a job of q meals takes 2 q units. Train 0 leaves at 20, train 1 at 10. */
@@ -5,7 +7,8 @@ final class WhatIfEdges {
         + "kitchen 0;stock 0 a 50;stock 0 b 9;trolley 0 9 1 1 1;trolley 0 9 1 1 1";
     private static final String FIVE = NEAR + ";trolley 0 9 1 1 1".repeat(3);
     /** Eight jobs of trolley 0, eight of trolley 1 and two of trolley 2, all of them without meals. */
-    private static final String EIGHTEEN = FIVE + ";meal c 0 0" + ";job 0 0 0 c 1".repeat(8) + ";job 1 0 0 c 1".repeat(8) + ";job 2 0 0 c 1".repeat(2);
+    private static final String EIGHTEEN = FIVE + ";meal c 0 0" + ";job 0 0 0 c 1".repeat(8) + ";job 1 0 0 c 1".repeat(8)
+        + ";job 2 0 0 c 1".repeat(2);
 
     static void tell(Edges e) {
         neededDelay(e);
@@ -15,22 +18,33 @@ final class WhatIfEdges {
         bestSwap(e);
     }
 
-    private static void delay(Checks c, String text, int train, int due) {
+    /** The call answers that in that plan, or fails with error 6, and leaves the plan as it was. */
+    private static void asked(Checks c, String what, String text, ToIntFunction<TrolleyPlanner> call, int due) {
         TrolleyPlanner p = Texts.plan(text);
-        String before = Whole.planOf(Texts.plan(text));
-        if (due == Checks.FAILED) {
-            c.refused("neededDelay(" + train + ") of " + text, p, p.neededDelay(train), 6);
-        } else {
-            c.answered("neededDelay(" + train + ") of " + text, p, p.neededDelay(train), due);
-        }
-        c.same("neededDelay(" + train + ")", Whole.planOf(p), before);
+        c.due(what + " in " + text, call.applyAsInt(p), due);
+        c.due(what + " in " + text + ", its error code", p.error(), due == Checks.FAILED ? 6 : 0);
+        c.same(what, Whole.planOf(p), Whole.planOf(Texts.plan(text)));
+    }
+
+    private static void delay(Checks c, String text, int train, int due) {
+        asked(c, "neededDelay(" + train + ")", text, p -> p.neededDelay(train), due);
+    }
+
+    private static void worst(Checks c, String jobs, int total, int due) {
+        asked(c, "deliveredTotal()", NEAR + jobs, p -> p.deliveredTotal(), total);
+        asked(c, "worstJob()", NEAR + jobs, p -> p.worstJob(), due);
+    }
+
+    private static void swap(Checks c, String jobs, int total, int due) {
+        asked(c, "deliveredTotal()", NEAR + jobs, p -> p.deliveredTotal(), total);
+        asked(c, "bestSwap()", NEAR + jobs, p -> p.bestSwap(), due);
     }
 
     // ---- promise 40
 
     private static void neededDelay(Edges e) {
         String one = NEAR.replace("trolley 0 9", "trolley 0 99");
-        e.test("Promise 40", "Returns the smallest number of units by which the departure of a train would have to be later", c -> {
+        e.test("Promise 40", "Returns the smallest number of units by which the departure of a train would have to be", c -> {
             // 9 meals until 18, and then 3 until 24.
             delay(c, one + ";job 0 0 0 a 9", 0, 0);
             delay(c, one + ";job 0 0 0 a 10", 0, 0);
@@ -47,6 +61,14 @@ final class WhatIfEdges {
             delay(c, one, 0, 0);
             // All jobs for the train, of all trolleys: the other one has to wait for the door until 18.
             delay(c, one + ";job 1 0 0 a 9;job 0 0 0 a 9", 0, 7);
+            // The jobs for all cars of the train, and for none of the other one.
+            for (int car = 0; car < 5; car++) {
+                String cars = one.replace("car 1 0 1 0", "car 0 0 1 0;".repeat(4) + "car 1 0 1 0;".repeat(4) + "car 1 0 1 0");
+                delay(c, cars + ";job 0 0 " + car + " a 11", 0, 2);
+                delay(c, cars + ";job 0 0 " + car + " a 11", 1, 0);
+                delay(c, cars + ";job 0 1 " + car + " a 11", 0, 0);
+                delay(c, cars + ";job 0 1 " + car + " a 11", 1, 12);
+            }
             // The departure, not the arrival: nothing helps a train that comes late but time after that.
             delay(c, one.replace("train 0 from 0 to 20", "train 0 from 30 to 30") + ";job 0 0 0 a 5", 0, 5);
         });
@@ -72,13 +94,19 @@ final class WhatIfEdges {
             }
             TrolleyPlanner none = new TrolleyPlanner();
             c.refused("neededDelay(0) without a plan", none, none.neededDelay(0), 1);
+            // Twenty jobs; those that are removed count no more.
+            TrolleyPlanner full = Texts.plan(EIGHTEEN + ";job 3 0 0 a 1;job 3 1 0 a 9");
+            c.answered("neededDelay(0) of twenty jobs", full, full.neededDelay(0), 0);
+            c.answered("neededDelay(1) of twenty jobs", full, full.neededDelay(1), 10);
+            full.removeJob(19);
+            c.answered("neededDelay(1) of nineteen jobs", full, full.neededDelay(1), 0);
         });
     }
 
     // ---- promise 41
 
     private static void deliveredWithout(Edges e) {
-        e.test("Promise 41", "Returns the sum of the meals that would be unloaded for all jobs if a trolley did none of its jobs.", c -> {
+        e.test("Promise 41", "Returns the sum of the meals that would be unloaded for all jobs if a trolley did none of", c -> {
             TrolleyPlanner p = Texts.plan(NEAR + ";job 0 0 0 a 3;job 1 1 0 a 2;job 0 1 0 a 1");
             c.answered("deliveredTotal()", p, p.deliveredTotal(), 6);
             c.answered("deliveredWithout(0)", p, p.deliveredWithout(0), 2);
@@ -112,8 +140,8 @@ final class WhatIfEdges {
             c.answered("without a trolley that has no jobs", p, p.deliveredWithout(1), 5);
             // Twenty jobs, eight of them of one trolley, first and last among them.
             TrolleyPlanner full = Texts.plan(NEAR.replace("0 to 20", "0 to 999") + ";trolley 0 9 1 1 1" + ";job 1 0 0 a 1".repeat(4)
-                + ";job 2 0 0 a 1;job 0 0 0 a 1;job 2 0 0 a 1;job 0 0 0 a 1;job 2 0 0 a 1;job 0 0 0 a 1;job 2 0 0 a 1;job 0 0 0 a 1"
-                + ";job 0 0 0 a 1;job 2 0 0 a 1;job 0 0 0 a 1;job 2 0 0 a 1" + ";job 1 0 0 a 1".repeat(4));
+                + ";job 2 0 0 a 1;job 0 0 0 a 1;job 2 0 0 a 1;job 0 0 0 a 1;job 2 0 0 a 1;job 0 0 0 a 1;job 2 0 0 a 1;"
+                + "job 0 0 0 a 1;job 0 0 0 a 1;job 2 0 0 a 1;job 0 0 0 a 1;job 2 0 0 a 1" + ";job 1 0 0 a 1".repeat(4));
             c.answered("deliveredTotal()", full, full.deliveredTotal(), 20);
             c.answered("without eight jobs", full, full.deliveredWithout(1), 12);
             c.answered("without six jobs", full, full.deliveredWithout(2), 14);
@@ -122,19 +150,8 @@ final class WhatIfEdges {
 
     // ---- promise 42
 
-    private static void worst(Checks c, String jobs, int total, int due) {
-        TrolleyPlanner p = Texts.plan(NEAR + jobs);
-        c.answered("deliveredTotal() of " + jobs, p, p.deliveredTotal(), total);
-        if (due < 0) {
-            c.refused("worstJob() of " + jobs, p, p.worstJob(), 6);
-        } else {
-            c.answered("worstJob() of " + jobs, p, p.worstJob(), due);
-        }
-        c.same("worstJob()", Whole.planOf(p), Whole.planOf(Texts.plan(NEAR + jobs)));
-    }
-
     private static void worstJob(Edges e) {
-        e.test("Promise 42", "Returns the job whose removal would increase the sum of the meals that are unloaded for all jobs most", c -> {
+        e.test("Promise 42", "Returns the job whose removal would increase the sum of the meals that are unloaded for", c -> {
             // The last job starts at 2 and unloads 3 of its 5 meals; without the first one it unloads all.
             worst(c, ";job 0 0 0 a 1;job 0 1 0 a 5", 4, 0);
             // The last job starts at 4: without either of the equal ones it starts at 2, one meal more.
@@ -152,13 +169,13 @@ final class WhatIfEdges {
         e.test("Promise 42", "Returns the index of the job; FAILED on an error: 1; 6 if no removal increases it.", c -> {
             TrolleyPlanner none = new TrolleyPlanner();
             c.refused("worstJob() without a plan", none, none.worstJob(), 1);
-            worst(c, "", 0, -1);
-            worst(c, ";job 0 0 0 a 1", 1, -1);
+            worst(c, "", 0, Checks.FAILED);
+            worst(c, ";job 0 0 0 a 1", 1, Checks.FAILED);
             // A job that delivers nothing: without it the sum stays the same.
-            worst(c, ";job 0 0 0 a 9;job 0 1 0 a 1", 9, -1);
-            worst(c, ";job 0 1 0 a 9", 1, -1);
+            worst(c, ";job 0 0 0 a 9;job 0 1 0 a 1", 9, Checks.FAILED);
+            worst(c, ";job 0 1 0 a 9", 1, Checks.FAILED);
             // 2 less and 2 more.
-            worst(c, ";job 0 0 0 a 2;job 0 1 0 a 4", 4, -1);
+            worst(c, ";job 0 0 0 a 2;job 0 1 0 a 4", 4, Checks.FAILED);
         });
     }
 
@@ -174,7 +191,8 @@ final class WhatIfEdges {
             // Of equal ones the smallest index, also if it is another trolley.
             TrolleyPlanner equal = Texts.plan(FIVE + ";job 4 0 0 a 4");
             c.answered("bestTrolley(0) of five equal ones", equal, equal.bestTrolley(0), 0);
-            TrolleyPlanner speeds = Texts.plan(NEAR.replace("car 0 0", "car 0 18") + ";trolley 0 9 9 1 1;trolley 0 9 9 1 1;job 0 0 0 a 2");
+            TrolleyPlanner speeds = Texts.plan(NEAR.replace("car 0 0", "car 0 18")
+                + ";trolley 0 9 9 1 1;trolley 0 9 9 1 1;job 0 0 0 a 2");
             c.answered("bestTrolley(0) of two faster ones", speeds, speeds.bestTrolley(0), 2);
             // At the same index: between two others, trolley 1 does it first, trolley 0 last.
             TrolleyPlanner index = Texts.plan(NEAR + ";job 0 0 0 a 5;job 1 1 0 a 5;job 1 0 0 a 5");
@@ -194,7 +212,8 @@ final class WhatIfEdges {
             full.undo();
             c.answered("another one, with 8 jobs again", full, full.bestTrolley(8), 1);
             // All others have 8 jobs.
-            TrolleyPlanner only = Texts.plan(eight + ";job 0 0 0 c 1" + ";trolley 0 9 1 1 1" + ";job 1 0 0 c 1".repeat(8) + ";job 2 0 0 a 4");
+            TrolleyPlanner only = Texts.plan(eight + ";job 0 0 0 c 1" + ";trolley 0 9 1 1 1" + ";job 1 0 0 c 1".repeat(8)
+                + ";job 2 0 0 a 4");
             c.answered("the only one", only, only.bestTrolley(16), 2);
             c.answered("its own, which is full, and not the other full one", only, only.bestTrolley(15), 1);
         });
@@ -212,24 +231,13 @@ final class WhatIfEdges {
             // Nothing is delivered by any: all are equal.
             TrolleyPlanner p = Texts.plan(NEAR.replace("0 to 20", "0 to 0") + ";job 1 0 0 a 4");
             c.answered("bestTrolley(0) in vain", p, p.bestTrolley(0), 0);
-            TrolleyPlanner last = Texts.plan(NEAR.replace("car 0 0", "car 0 18") + ";trolley 0 9 1 1 1;trolley 0 9 1 1 1;trolley 0 9 9 1 1"
-                + ";job 0 0 0 a 4");
+            TrolleyPlanner last = Texts.plan(NEAR.replace("car 0 0", "car 0 18")
+                + ";trolley 0 9 1 1 1;trolley 0 9 1 1 1;trolley 0 9 9 1 1;job 0 0 0 a 4");
             c.answered("the last trolley", last, last.bestTrolley(0), 4);
         });
     }
 
     // ---- promise 44
-
-    private static void swap(Checks c, String jobs, int total, int due) {
-        TrolleyPlanner p = Texts.plan(NEAR + jobs);
-        c.answered("deliveredTotal() of " + jobs, p, p.deliveredTotal(), total);
-        if (due < 0) {
-            c.refused("bestSwap() of " + jobs, p, p.bestSwap(), 6);
-        } else {
-            c.answered("bestSwap() of " + jobs, p, p.bestSwap(), due);
-        }
-        c.same("bestSwap()", Whole.planOf(p), Whole.planOf(Texts.plan(NEAR + jobs)));
-    }
 
     private static void bestSwap(Edges e) {
         e.test("Promise 44", "Returns the two jobs that should exchange their indices", c -> {
@@ -246,16 +254,16 @@ final class WhatIfEdges {
             swap(c, ";job 1 1 0 a 1;job 0 0 0 a 4;job 1 0 0 a 5;job 0 1 0 a 4", 10, 103);
             // One meal more is enough, and none more is not.
             swap(c, ";job 0 0 0 a 9;job 0 1 0 a 1", 9, 1);
-            swap(c, ";job 0 0 0 a 4;job 0 1 0 a 1", 5, -1);
+            swap(c, ";job 0 0 0 a 4;job 0 1 0 a 1", 5, Checks.FAILED);
         });
-        e.test("Promise 44", "Returns 100 times the first index plus the second one; FAILED on an error: 1; 6 if no exchange increases it.", c -> {
+        e.test("Promise 44", "Returns 100 times the first index plus the second one; FAILED on an error: 1; 6 if no", c -> {
             TrolleyPlanner none = new TrolleyPlanner();
             c.refused("bestSwap() without a plan", none, none.bestSwap(), 1);
-            swap(c, "", 0, -1);
-            swap(c, ";job 0 0 0 a 5", 5, -1);
-            swap(c, ";job 0 1 0 a 5;job 0 0 0 a 5", 10, -1);
-            swap(c, ";job 0 0 0 a 5;job 0 0 0 a 5", 10, -1);
-            swap(c, ";job 0 0 0 a 5;job 1 1 0 a 5", 10, -1);
+            swap(c, "", 0, Checks.FAILED);
+            swap(c, ";job 0 0 0 a 5", 5, Checks.FAILED);
+            swap(c, ";job 0 1 0 a 5;job 0 0 0 a 5", 10, Checks.FAILED);
+            swap(c, ";job 0 0 0 a 5;job 0 0 0 a 5", 10, Checks.FAILED);
+            swap(c, ";job 0 0 0 a 5;job 1 1 0 a 5", 10, Checks.FAILED);
             // The first and the last of twenty jobs: the last one is then done before job 18.
             TrolleyPlanner p = Texts.plan(EIGHTEEN + ";job 3 0 0 a 5;job 3 1 0 a 5");
             c.answered("bestSwap() of twenty jobs", p, p.bestSwap(), 19);
