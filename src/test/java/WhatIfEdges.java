@@ -197,6 +197,14 @@ final class WhatIfEdges {
             // At the same index: between two others, trolley 1 does it first, trolley 0 last.
             TrolleyPlanner index = Texts.plan(NEAR + ";job 0 0 0 a 5;job 1 1 0 a 5;job 1 0 0 a 5");
             c.answered("bestTrolley(1)", index, index.bestTrolley(1), 1);
+            // It is best not done at all, but some trolley does it: trolley 0 unloads 1 of all 9 meals b, and none are left for
+            // job 1; trolley 1 does both jobs, brings 8 meals back at 10, and unloads 2 of them. Without it there would be 9.
+            TrolleyPlanner harm = Texts.plan(NEAR + ";job 0 1 0 b 9;job 1 0 0 b 9");
+            c.answered("deliveredTotal()", harm, harm.deliveredTotal(), 1);
+            c.answered("deliveredWithout(0)", harm, harm.deliveredWithout(0), 9);
+            c.answered("bestTrolley(0) of a job that is best not done", harm, harm.bestTrolley(0), 1);
+            TrolleyPlanner most = Texts.plan(FIVE + ";job 0 1 0 b 9;job 4 0 0 b 9");
+            c.answered("bestTrolley(0) with as many trolleys as there may be", most, most.bestTrolley(0), 4);
         });
         e.test("Promise 43", "Its own trolley is considered, too, but no other trolley that has 8 jobs.", c -> {
             // Trolley 0 has 8 jobs without meals: its own, or too many for another one.
